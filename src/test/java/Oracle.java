@@ -781,11 +781,13 @@ final class Oracle {
 
     List<Swap> list(World w, int thief) {
         List<Swap> swaps = new ArrayList<>();
-        int all = 1 << told.things.size();
+        int stock = setAt(w, "T" + thief);
         for (int house = 0; house < told.houses.size(); house++) {
             for (int thing = 0; thing < told.things.size(); thing++) {
-                for (int left = 1; left < all; left++) {
-                    if (Integer.bitCount(left) <= 2 && isSwap(w, thief, house, 1 << thing, left)) {
+                boolean there = w.places.get(thing).equals("H" + house);
+                for (int left = 1; there && left <= stock; left++) {
+                    boolean his = (left & stock) == left && Integer.bitCount(left) <= 2;
+                    if (his && isSwap(w, thief, house, 1 << thing, left)) {
                         World then = w.copy();
                         move(then, thief, house, 1 << thing, left);
                         swaps.add(new Swap(house, thing, left, sumAt(then, "T" + thief) - sumAt(w, "T" + thief)));

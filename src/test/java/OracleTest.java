@@ -8,7 +8,7 @@ public final class OracleTest {
     private static final String[] SIGNS = {"+", "-", "*", "/", "%"};
     private static final String[] RELATIONS = {"<", ">", "="};
     private static final String[] SCRAPS = {";", "(", ")", "kind", "thing", "of", "law", "not", "night 3;", "has",
-        "watch", "dear", "x", "a", "h", "p", "7", "100", "12345", "abcdefghi", "3x", "#", "\n", "and", "or", "<",
+        "watch", "dear", "x", "a", "h", "p", "7", "100", "12345", "abcdefghi", "ta", "hb", "pa", "6", "9", "10", "3x", "#", "\n", "and", "or", "<",
         "house q lock 1;", "thief q sack 9 skill 1;", "to", "skill", "+", "lock", "weight", "worth", "1000"};
 
     private final Random chance;
@@ -111,10 +111,10 @@ public final class OracleTest {
             b.append(often(30) ? "h" + (char) ('a' + below(houses)) : "p" + (char) ('a' + below(thieves)));
             b.append(" ").append(below(worths)).append(";");
         }
-        if (often(60)) {
-            b.append("law ").append(formula(0)).append(";");
+        if (often(70)) {
+            b.append("law ").append(often(20) ? "1" : formula(0)).append(";");
         }
-        return often(30) ? spoilt(b) : b.toString();
+        return b.toString();
     }
 
     private String stock(List<Integer> free, int percent) {
@@ -128,13 +128,25 @@ public final class OracleTest {
 
     private String spoilt(StringBuilder b) {
         int at = below(b.length());
-        switch (below(4)) {
+        switch (below(6)) {
             case 0 -> b.insert(at, SCRAPS[below(SCRAPS.length)]);
-            case 1 -> b.insert(at, " " + SCRAPS[below(SCRAPS.length)] + " ");
-            case 2 -> b.delete(at, Math.min(b.length(), at + 1 + below(6)));
-            default -> b.setLength(at);
+            case 1 -> b.delete(at, Math.min(b.length(), at + 1 + below(6)));
+            case 2 -> b.setLength(at);
+            default -> respelt(b);
         }
         return b.toString();
+    }
+
+    /** A TOKEN in place of another, or ahead of it, from the text itself or from the scraps. */
+    private void respelt(StringBuilder b) {
+        String[] tokens = b.toString().split("(?=[; ()<>=+*/%-])|(?<=[; ()<>=+*/%-])");
+        int at = below(tokens.length);
+        String other = often(50) ? SCRAPS[below(SCRAPS.length)] : tokens[below(tokens.length)];
+        tokens[at] = often(70) ? other : other + " " + tokens[at];
+        b.setLength(0);
+        for (String token : tokens) {
+            b.append(token);
+        }
     }
 
     private void due(String call, int got, int want) {
@@ -161,9 +173,10 @@ public final class OracleTest {
     }
 
     private void go() {
-        for (int i = 0; i < 3 && calls < 60; i++) {
-            tell(cityText());
+        for (int i = 0; i < 3; i++) {
+            tell(spoilt(new StringBuilder(cityText())));
         }
+        tell(cityText());
         while (calls < 480 && Due.wrongs() < 20) {
             call();
         }
@@ -260,6 +273,20 @@ public final class OracleTest {
         if (often(60)) {
             due("theft", x.theft(thief, house, taken, left), y.theft(thief, house, taken, left));
         }
+        if (often(10)) {
+            swapAndAsk(thief);
+        }
+    }
+
+    private void swapAndAsk(int thief) {
+        int box = below(3);
+        laid("best", x.best(thief), y.best(thief));
+        due("image", x.image(box), y.image(box));
+        int house = y.lies(0);
+        int taken = 1 << y.lies(1);
+        int left = y.lies(2);
+        due("theft", x.theft(thief, house, taken, left), y.theft(thief, house, taken, left));
+        laid("who", x.who(box), y.who(box));
     }
 
     private void rounds(int thing, int holder, boolean b) {
