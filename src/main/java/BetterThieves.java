@@ -584,6 +584,7 @@ public final class BetterThieves {
         final int[] said = new int[HOUSES_MOST * THINGS_MOST];
         final int[] held = new int[HOLDERS_MOST];
         final Law law = new Law();
+
         void clear() {
             hours = 6;
             kinds = 0;

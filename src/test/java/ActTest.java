@@ -28,6 +28,9 @@ public final class ActTest {
         Due.is("not in STOCK", x.theft(1, 0, 1, 2), -1);
         Due.is("no THIEF", x.theft(2, 0, 1, 0), -1);
         Due.is("no HOUSE", x.theft(0, 2, 1, 0), -1);
+        Due.is("THIEF -1", x.theft(-1, 0, 1, 0), -1);
+        Due.is("HOUSE -1", x.theft(0, -1, 1, 0), -1);
+        Due.is("HOUSE max", x.theft(0, Integer.MAX_VALUE, 1, 0), -1);
         Due.is("nothing done", x.about(9), 0);
         Due.is("the HOUR stays", x.about(5), 0);
         Due.is("LAWFUL", x.theft(0, 0, 1, 2), 1);
@@ -151,15 +154,17 @@ public final class ActTest {
         }
         Due.is("NIGHT", x.about(4), 5);
         Due.is("to be undone", x.about(9), 40);
-        for (int i = 0; i < 40; i++) {
+        for (int i = 44; i >= 5; i--) {
             Due.is("undo", x.undo(), true);
+            Due.is("HOUR by HOUR back", 9 * x.about(4) + x.about(5), i);
         }
         Due.is("undo", x.undo(), false);
         Due.is("HOUR", x.about(5), 5);
         Due.is("NIGHT", x.about(4), 0);
         Due.is("to be redone", x.about(10), 40);
-        for (int i = 0; i < 40; i++) {
+        for (int i = 6; i <= 45; i++) {
             Due.is("redo", x.redo(), true);
+            Due.is("HOUR by HOUR on", 9 * x.about(4) + x.about(5), i);
         }
         Due.is("redo", x.redo(), false);
         Due.is("NIGHT", x.about(4), 5);

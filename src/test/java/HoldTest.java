@@ -82,6 +82,8 @@ public final class HoldTest {
         Due.is("thief(0, 1)", x.thief(0, 1), 1);
         Due.is("thief(1, 1)", x.thief(1, 1), 0);
         Due.is("thief(0, 2)", x.thief(0, 2), 16);
+        x.gift(6, 1, true);
+        Due.is("thief(1, 2)", x.thief(1, 2), 99);
     }
 
     private static void minutes() {
@@ -125,6 +127,9 @@ public final class HoldTest {
         Due.is("below 0", x.may(0, 0, 1, Integer.MIN_VALUE, 0), -1);
         Due.is("no THIEF", x.may(2, 0, 1, 8, 0), -1);
         Due.is("no HOUSE", x.may(0, 2, 1, 8, 0), -1);
+        Due.is("THIEF -1", x.may(-1, 0, 1, 8, 0), -1);
+        Due.is("HOUSE -1", x.may(0, -1, 1, 8, 0), -1);
+        Due.is("HOUSE max", x.may(0, Integer.MAX_VALUE, 1, 8, 0), -1);
         x.gift(3, 0, false);
         Due.is("four TAKEN", x.may(1, 0, 15, 0, 0), -1);
         Due.is("three TAKEN", x.may(1, 0, 14, 0, 0), 1);

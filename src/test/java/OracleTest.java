@@ -11,6 +11,8 @@ public final class OracleTest {
         "watch", "dear", "x", "a", "h", "p", "7", "100", "12345", "abcdefghi", "ta", "hb", "pa", "6", "9", "10", "3x", "#", "\n", "and", "or", "<",
         "house q lock 1;", "thief q sack 9 skill 1;", "to", "skill", "+", "lock", "weight", "worth", "1000"};
 
+    private static final int[] FAR = {Integer.MIN_VALUE, Integer.MAX_VALUE, -2, 10, 31, 32, 33, 100, 1 << 20};
+
     private final Random chance;
     private final BetterThieves x = new BetterThieves();
     private final Oracle y = new Oracle();
@@ -187,7 +189,10 @@ public final class OracleTest {
 
     /** A number of something of which there are n, now and then one too far. */
     private int some(int n) {
-        return often(95) ? below(Math.max(1, n)) : below(n + 3) - 1;
+        if (often(95)) {
+            return below(Math.max(1, n));
+        }
+        return often(70) ? below(n + 3) - 1 : FAR[below(FAR.length)];
     }
 
     private int part(int set) {

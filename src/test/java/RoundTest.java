@@ -36,6 +36,7 @@ public final class RoundTest {
             Due.is("sums of h " + n, x.sums(0, false, n), house[n]);
             Due.is("sums of p " + n, x.sums(0, true, n), thief[n]);
         }
+        Due.is("60", x.sums(0, true, 60), 20);
         Due.is("61", x.sums(0, true, 61), -1);
         Due.is("-1", x.sums(0, true, -1), -1);
         Due.is("no THIEF", x.sums(1, true, 1), -1);
@@ -153,6 +154,15 @@ public final class RoundTest {
         Due.is("to be robbed is better", z.lie(0, 1, 0), 15);
         Due.is("its THING", z.lie(0, 1, 1), 1);
         Due.is("its WORTH", z.lie(0, 1, 2), 15);
+        BetterThieves most = Due.city("kind a;thing u of a weight 1 worth 15;thing v of a weight 1 worth 10;"
+                + "house h lock 0 has v;thief p sack 9 skill 0 has u;dear v to p 60;law taken>19;");
+        Due.is("20 is the most", most.lie(0, 1, 2), 20);
+        BetterThieves more = Due.city("kind a;thing u of a weight 1 worth 15;thing v of a weight 1 worth 10;"
+                + "house h lock 0 has v;thief p sack 9 skill 0 has u;dear v to p 60;law taken>20;");
+        Due.is("21 is more", more.lie(0, 1, 2), -1);
+        BetterThieves least = Due.city("kind a;thing u of a weight 1 worth 15;thing v of a weight 1 worth 10;"
+                + "house h lock 0 has v;thief p sack 9 skill 0 has u;dear v to p 60;law taken<1;");
+        Due.is("0 is the least", least.lie(0, 1, 2), 0);
         Due.is("nothing is told in earnest", z.may(0, 0, 2, 1, 2), 0);
         Due.is("true WORTH stays", z.worth(1, 0, false), 10);
     }

@@ -41,6 +41,18 @@ public final class SwapTest {
         // three THINGS are not left in a SWAP
         BetterThieves three = Due.city(THREE + "house h lock 0 has x;thief p sack 99 skill 0 has u has v has w;law 1;");
         Due.is("one or two of three", three.swaps(0), 6);
+        // alike, gave: of u, v (a) and w (b) for x (b) the sets {w}, {u, w}, {v, w} have one alike
+        BetterThieves alike = Due.city(THREE + "house h lock 0 has x;thief q sack 0 skill 0;"
+                + "thief p sack 99 skill 0 has u has v has w;law alike=1 and gave=2;");
+        Due.is("two, one of them alike", alike.swaps(1), 2);
+        Due.is("best", alike.best(1), 12 - 5 - 7);
+        Due.lies("best", alike, 0, 3, 5);
+        // the sack of the second THIEF: with all three 6, with x for w 7, for v 8, for u 9
+        BetterThieves sack = Due.city(THREE + "house g lock 0;house h lock 0 has x;thief q sack 99 skill 0;"
+                + "thief p sack 7 skill 0 has u has v has w;law gave=1;");
+        Due.is("one of three", sack.swaps(1), 1);
+        Due.is("best", sack.best(1), 5);
+        Due.lies("best", sack, 1, 3, 4);
     }
 
     private static void best() {
@@ -85,6 +97,9 @@ public final class SwapTest {
         Due.lies("no THIEF", x);
         Due.is("no THING", x.tour(0, 4), -1);
         Due.is("THING -1", x.tour(0, -1), -1);
+        Due.is("THIEF -1", x.tour(-1, 0), -1);
+        Due.is("THIEF max", x.tour(Integer.MAX_VALUE, 0), -1);
+        Due.is("THING max", x.tour(0, Integer.MAX_VALUE), -1);
         // who is in JAIL waits for the next NIGHT
         x.gift(0, 0, false);
         Due.is("caught", x.theft(0, 0, 1, 0), 2);
