@@ -60,12 +60,8 @@ public final class BetterThieves {
     private static final int BAD_NUMBER = 4;
     private static final int UNKNOWN = 5;
 
-    private final int[] tape = new int[TAPE_MOST];
-    private int tapeLength = 0;
-    private final Tokens tokens = new Tokens(tape);
-    private final Reader reader = new Reader(tokens);
-    private int faultSort = 0;
-    private int faultPlace = NONE;
+    private final Reader reader = new Reader();
+    private final Tokens tape = reader.tokens;
     private City town = new City();
     /** Read into first, so that a FAULT leaves the CITY as it is. */
     private City draft = new City();
@@ -78,8 +74,8 @@ public final class BetterThieves {
     private final Reports reports = new Reports();
     private int time = 0;
     private final Swaps list = new Swaps();
-    private final Rounds rounds = new Rounds(list);
-    private final Search search = new Search(list);
+    private final Rounds rounds = new Rounds();
+    private final Search search = new Search();
     /** What is tried out on it is gone with the call. */
     private final State trial = new State();
 
@@ -87,42 +83,32 @@ public final class BetterThieves {
         for (int i = 0; i < BOXES_MOST; i++) {
             boxes[i] = new State();
         }
-        acts.begin(now);
     }
 
     public int feed(int a, int b, int c, int d, int e) {
-        if (tapeLength + 20 > TAPE_MOST) {
+        if (tape.length + 20 > TAPE_MOST) {
             return NONE;
         }
-        putBytes(a);
-        putBytes(b);
-        putBytes(c);
-        putBytes(d);
-        putBytes(e);
-        return tapeLength;
-    }
-
-    private void putBytes(int number) {
-        for (int shift = 24; shift >= 0 && tapeLength < TAPE_MOST; shift -= 8) {
-            tape[tapeLength] = (number >>> shift) & 255;
-            tapeLength++;
-        }
+        tape.put(a);
+        tape.put(b);
+        tape.put(c);
+        tape.put(d);
+        tape.put(e);
+        return tape.length;
     }
 
     public int end(int n) {
-        if (n < 0 || n > tapeLength) {
+        if (n < 0 || n > tape.length) {
             return NONE;
         }
-        tapeLength = n;
+        tape.length = n;
         return n;
     }
 
     public int city() {
-        tokens.split(tapeLength);
+        tape.split();
         boolean sound = reader.read(draft);
-        tapeLength = 0;
-        faultSort = tokens.faultSort;
-        faultPlace = tokens.faultPlace;
+        tape.length = 0;
         if (!sound) {
             return NONE;
         }
@@ -139,9 +125,9 @@ public final class BetterThieves {
 
     public int fault(int what) {
         if (what == 0) {
-            return faultSort;
+            return tape.faultSort;
         }
-        return what == 1 ? faultPlace : NONE;
+        return what == 1 ? tape.faultPlace : NONE;
     }
 
     public int thing(int thing, int what) {
@@ -515,7 +501,7 @@ public final class BetterThieves {
             case 10: return acts.count - acts.at;
             case 11: return reports.count;
             case 12: return time;
-            case 13: return tapeLength;
+            case 13: return tape.length;
             case 14: return town.law.units;
             case 15: return laidCount;
             default: return NONE;
@@ -774,7 +760,7 @@ public final class BetterThieves {
         }
     }
 
-    /** The TOKENS of the TAPE, gone through one at a time, and the first FAULT in it. */
+    /** The TAPE, its TOKENS, gone through one at a time, and the first FAULT in it. */
     private static final class Tokens {
         static final int END = 0;
         static final int BROKEN = 1;
@@ -784,7 +770,7 @@ public final class BetterThieves {
         static final int SIGN = 5;
         static final String SIGNS = ";()<>=+-*/%";
 
-        final int[] text;
+        final int[] text = new int[TAPE_MOST];
         int length = 0;
         final int[] starts = new int[TAPE_MOST + 1];
         final int[] sorts = new int[TAPE_MOST + 1];
@@ -795,13 +781,15 @@ public final class BetterThieves {
         int faultSort = 0;
         int faultPlace = NONE;
 
-        Tokens(int[] text) {
-            this.text = text;
+        void put(int number) {
+            for (int shift = 24; shift >= 0 && length < TAPE_MOST; shift -= 8) {
+                text[length] = number >>> shift & 255;
+                length++;
+            }
         }
 
         /** Up to the first that is none, or to the end: nothing behind them is asked for. */
-        void split(int size) {
-            length = Math.min(size, text.length);
+        void split() {
             count = 0;
             at = 0;
             faultSort = 0;
@@ -946,8 +934,8 @@ public final class BetterThieves {
 
     /** Reads lines; each method answers false at the first FAULT. */
     private static final class Reader {
-        final Tokens tokens;
-        final Formula formula;
+        final Formula formula = new Formula();
+        final Tokens tokens = formula.tokens;
         final long[] kindNames = new long[KINDS_MOST];
         final long[] thingNames = new long[THINGS_MOST];
         final long[] holderNames = new long[HOLDERS_MOST];
@@ -958,11 +946,6 @@ public final class BetterThieves {
         int placed = 0;
         /** The number or the index that was read last. */
         int got = 0;
-
-        Reader(Tokens tokens) {
-            this.tokens = tokens;
-            formula = new Formula(tokens);
-        }
 
         boolean read(City draft) {
             draft.clear();
@@ -1204,11 +1187,7 @@ public final class BetterThieves {
     private static final class Formula {
         static final int WITHIN_MOST = 6;
 
-        final Tokens tokens;
-
-        Formula(Tokens tokens) {
-            this.tokens = tokens;
-        }
+        final Tokens tokens = new Tokens();
 
         private boolean readEither(Law law, int within) {
             if (!readBoth(law, within)) {
@@ -1538,15 +1517,11 @@ public final class BetterThieves {
     private static final class Rounds {
         static final int LIE_MOST = 20;
 
-        final Swaps list;
+        final Swaps list = new Swaps();
         final State scene = new State();
         int lieSum = 0;
         int lieThing = NONE;
         int lieWorth = NONE;
-
-        Rounds(Swaps list) {
-            this.list = list;
-        }
 
         /** Ends behind as many HOURS without a move as are enough: at which HOUR, or NONE. */
         int run(City town, State now, int n, int enough) {
@@ -1598,7 +1573,7 @@ public final class BetterThieves {
         static final int HOURS_MOST = 9;
         static final int MASK = 1023;
 
-        final Swaps list;
+        final Swaps list = new Swaps();
         final State scene = new State();
         /** What the HOUSES have, ten bits each: the rest of what moves, he has. */
         final long[] keys = new long[STATES_MOST];
@@ -1609,10 +1584,6 @@ public final class BetterThieves {
         int layer = 0;
         int moving = 0;
         int goal = NONE;
-
-        Search(Swaps list) {
-            this.list = list;
-        }
 
         int run(City town, State now, int thief, int thing) {
             begin(now, thief);
