@@ -1,9 +1,16 @@
+import java.io.IOException;
 import java.nio.charset.StandardCharsets;
+import java.nio.file.Files;
+import java.nio.file.Path;
 
 /** What the tests share: they count wrong answers, and feed texts. */
 final class Due {
+    private static final Path DOCUMENT = Path.of("../shared/DOC.md");
+
     private static int wrong = 0;
     private static int asked = 0;
+    private static String sentence = "";
+    private static String document = null;
 
     private Due() {
     }
@@ -13,13 +20,31 @@ final class Due {
         if (got != want) {
             wrong++;
             if (wrong <= 40) {
-                System.out.println(call + " answered " + got + ", due is " + want);
+                System.out.println(sentence + call + " answered " + got + ", due is " + want);
             }
         }
     }
 
     static void is(String call, boolean got, boolean want) {
         is(call, got ? 1 : 0, want ? 1 : 0);
+    }
+
+    /** What is due from here on is due by these words of the document. */
+    static void by(String words) {
+        sentence = "";
+        is("the document says: " + words, document().contains(words), true);
+        sentence = "\"" + words + "\": ";
+    }
+
+    private static String document() {
+        if (document == null) {
+            try {
+                document = Files.readString(DOCUMENT).replaceAll("\\s+", " ");
+            } catch (IOException e) {
+                throw new IllegalStateException("no document at " + DOCUMENT, e);
+            }
+        }
+        return document;
     }
 
     static int wrongs() {
@@ -55,6 +80,29 @@ final class Due {
             is("city() of " + text + ", FAULT " + x.fault(0) + " at " + x.fault(1), things, 0);
         }
         return x;
+    }
+
+    /** A text without a FAULT. */
+    static void sound(String text, int things) {
+        BetterThieves x = new BetterThieves();
+        feed(x, text);
+        is("city() of " + text, x.city(), things);
+        is("fault(0) of " + text, x.fault(0), 0);
+        is("fault(1) of " + text, x.fault(1), BetterThieves.NONE);
+        is("about(13) of " + text, x.about(13), 0);
+        is("about(0) of " + text, x.about(0), things);
+    }
+
+    static void faulty(String text, int fault, int place) {
+        BetterThieves x = new BetterThieves();
+        feed(x, text);
+        is("city() of " + text, x.city(), BetterThieves.NONE);
+        is("fault(0) of " + text, x.fault(0), fault);
+        is("fault(1) of " + text, x.fault(1), place);
+        is("fault(2) of " + text, x.fault(2), BetterThieves.NONE);
+        is("fault(-1) of " + text, x.fault(-1), BetterThieves.NONE);
+        is("about(13) of " + text, x.about(13), 0);
+        is("about(0) of " + text, x.about(0), 0);
     }
 
     /** All that lies there, with GAP behind it. */

@@ -23,27 +23,6 @@ public final class TextTest {
         return part.repeat(n);
     }
 
-    private static void sound(String text, int things) {
-        BetterThieves x = new BetterThieves();
-        Due.feed(x, text);
-        Due.is("city() of " + text, x.city(), things);
-        Due.is("fault(0) of " + text, x.fault(0), 0);
-        Due.is("fault(1) of " + text, x.fault(1), BetterThieves.NONE);
-        Due.is("about(13) of " + text, x.about(13), 0);
-    }
-
-    private static void faulty(String text, int fault, int place) {
-        BetterThieves x = new BetterThieves();
-        Due.feed(x, text);
-        Due.is("city() of " + text, x.city(), BetterThieves.NONE);
-        Due.is("fault(0) of " + text, x.fault(0), fault);
-        Due.is("fault(1) of " + text, x.fault(1), place);
-        Due.is("fault(2) of " + text, x.fault(2), BetterThieves.NONE);
-        Due.is("fault(-1) of " + text, x.fault(-1), BetterThieves.NONE);
-        Due.is("about(13) of " + text, x.about(13), 0);
-        Due.is("about(0) of " + text, x.about(0), 0);
-    }
-
     private static void newObject() {
         BetterThieves x = new BetterThieves();
         int[] want = {0, 0, 0, 0, 0, 0, 6, 0, 0, 0, 0, 0, 0, 0, 0, 0};
@@ -94,99 +73,99 @@ public final class TextTest {
     }
 
     private static void lines() {
-        sound("", 0);
-        sound(" \n ", 0);
-        sound("night 9;kind a;kind b;thing x of b weight 99 worth 99;house h lock 9 watch 0 watch 8 has x;"
+        Due.sound("", 0);
+        Due.sound(" \n ", 0);
+        Due.sound("night 9;kind a;kind b;thing x of b weight 99 worth 99;house h lock 9 watch 0 watch 8 has x;"
                 + "thief p sack 999 skill 9;dear x to p 99;dear x to h 0;law left>taken;", 1);
-        sound("kind a ;thing\nx of a weight 0 worth 0 ; thief t sack 0 skill 0 has x ;", 1);
-        sound("kind a;thing x of a weight1 worth2;house h lock3 watch0 watch1;", 1);
-        faulty("kind a", 2, 6);
-        faulty("kind a  ", 2, 8);
-        faulty("kind", 2, 4);
-        faulty(";", 2, 0);
-        faulty("kind a;;", 2, 7);
-        faulty("kind a;5", 2, 7);
-        faulty("kind a;of", 2, 7);
-        faulty("x", 2, 0);
-        faulty("kind ;", 2, 5);
-        faulty("kind a b;", 2, 7);
-        faulty("kind 5;", 2, 5);
-        faulty(BEGIN + "thing z weight", 2, BEGIN.length() + 8);
-        faulty("house h watch 1;", 2, 8);
-        faulty(BEGIN + "house h lock 1 has x watch 1;", 2, BEGIN.length() + 21);
-        faulty(BEGIN + "thief p sack 1 has x;", 2, BEGIN.length() + 15);
-        faulty(BEGIN + "thief p sack 1 skill 1 watch 1;", 2, BEGIN.length() + 23);
-        faulty(BEGIN + "dear x h 1;", 2, BEGIN.length() + 7);
-        faulty(BEGIN + "house h lock 1;dear x to h ;", 2, BEGIN.length() + 27);
-        faulty("night 3;night 3;", 2, 8);
-        faulty("kind a;night 3;", 2, 7);
-        faulty("law 1;law 2;", 2, 6);
-        faulty("night ;", 2, 6);
+        Due.sound("kind a ;thing\nx of a weight 0 worth 0 ; thief t sack 0 skill 0 has x ;", 1);
+        Due.sound("kind a;thing x of a weight1 worth2;house h lock3 watch0 watch1;", 1);
+        Due.faulty("kind a", 2, 6);
+        Due.faulty("kind a  ", 2, 8);
+        Due.faulty("kind", 2, 4);
+        Due.faulty(";", 2, 0);
+        Due.faulty("kind a;;", 2, 7);
+        Due.faulty("kind a;5", 2, 7);
+        Due.faulty("kind a;of", 2, 7);
+        Due.faulty("x", 2, 0);
+        Due.faulty("kind ;", 2, 5);
+        Due.faulty("kind a b;", 2, 7);
+        Due.faulty("kind 5;", 2, 5);
+        Due.faulty(BEGIN + "thing z weight", 2, BEGIN.length() + 8);
+        Due.faulty("house h watch 1;", 2, 8);
+        Due.faulty(BEGIN + "house h lock 1 has x watch 1;", 2, BEGIN.length() + 21);
+        Due.faulty(BEGIN + "thief p sack 1 has x;", 2, BEGIN.length() + 15);
+        Due.faulty(BEGIN + "thief p sack 1 skill 1 watch 1;", 2, BEGIN.length() + 23);
+        Due.faulty(BEGIN + "dear x h 1;", 2, BEGIN.length() + 7);
+        Due.faulty(BEGIN + "house h lock 1;dear x to h ;", 2, BEGIN.length() + 27);
+        Due.faulty("night 3;night 3;", 2, 8);
+        Due.faulty("kind a;night 3;", 2, 7);
+        Due.faulty("law 1;law 2;", 2, 6);
+        Due.faulty("night ;", 2, 6);
     }
 
     private static void tokens() {
-        faulty("#", 1, 0);
-        faulty("kind a;\t", 1, 7);
-        faulty("kind A;", 1, 5);
-        faulty("kind a&", 1, 6);
-        sound("kind abcdefgh;", 0);
-        faulty("kind abcdefghi;", 1, 5);
-        faulty("law 12345;", 1, 4);
-        sound("law 9999;", 0);
-        faulty("law 12a;", 1, 4);
-        faulty("house h lock 3watch 0;", 1, 13);
-        faulty("law 00001;", 1, 4);
-        sound("law 0001;", 0);
+        Due.faulty("#", 1, 0);
+        Due.faulty("kind a;\t", 1, 7);
+        Due.faulty("kind A;", 1, 5);
+        Due.faulty("kind a&", 1, 6);
+        Due.sound("kind abcdefgh;", 0);
+        Due.faulty("kind abcdefghi;", 1, 5);
+        Due.faulty("law 12345;", 1, 4);
+        Due.sound("law 9999;", 0);
+        Due.faulty("law 12a;", 1, 4);
+        Due.faulty("house h lock 3watch 0;", 1, 13);
+        Due.faulty("law 00001;", 1, 4);
+        Due.sound("law 0001;", 0);
         // a FAULT ahead of it is told first
-        faulty("kind a;piano #", 2, 7);
-        faulty("kind a;kind a#", 3, 12);
+        Due.faulty("kind a;piano #", 2, 7);
+        Due.faulty("kind a;kind a#", 3, 12);
         // what looks like two words is one
-        faulty("kinda;", 2, 0);
+        Due.faulty("kinda;", 2, 0);
     }
 
     private static void names() {
         for (String word : new String[] {"kind", "thing", "of", "weight", "worth", "house", "lock", "watch", "has",
             "thief", "sack", "skill", "dear", "to", "law", "night", "or", "and", "not", "taken", "left", "took",
             "gave", "alike", "hour"}) {
-            faulty("kind " + word + ";", 2, 5);
+            Due.faulty("kind " + word + ";", 2, 5);
         }
-        sound("kind e;kind line;kind things;kind n;kind city;", 0);
-        sound("kind ab;kind ba;kind b;kind aab;kind aba;kind z;", 0);
-        sound("kind zzzzzzzz;kind zzzzzzza;kind azzzzzzz;", 0);
-        faulty("kind a;kind a;", 3, 12);
-        faulty(BEGIN + "thing x of", 3, BEGIN.length() + 6);
-        faulty("house h lock 1;house h lock 1;", 3, 21);
-        faulty("thief h sack 1 skill 1;house h lock 1;", 3, 29);
+        Due.sound("kind e;kind line;kind things;kind n;kind city;", 0);
+        Due.sound("kind ab;kind ba;kind b;kind aab;kind aba;kind z;", 0);
+        Due.sound("kind zzzzzzzz;kind zzzzzzza;kind azzzzzzz;", 0);
+        Due.faulty("kind a;kind a;", 3, 12);
+        Due.faulty(BEGIN + "thing x of", 3, BEGIN.length() + 6);
+        Due.faulty("house h lock 1;house h lock 1;", 3, 21);
+        Due.faulty("thief h sack 1 skill 1;house h lock 1;", 3, 29);
         // KINDS, THINGS and HOLDERS are sorts of their own
-        sound("kind a;thing a of a weight 1 worth 1;house a lock 1 has a;", 1);
-        faulty("kind a;thing x of b weight", 5, 18);
-        faulty(BEGIN + "house h lock 1 has z;", 5, BEGIN.length() + 19);
-        faulty(BEGIN + "house h lock 1 has of;", 2, BEGIN.length() + 19);
-        faulty(BEGIN + "house h lock 1 has x;thief p sack 1 skill 1 has y has x;", 3, BEGIN.length() + 54);
-        faulty(BEGIN + "house h lock 1 has x has x;", 3, BEGIN.length() + 25);
-        faulty(BEGIN + "house h lock 1;dear z to h 1;", 5, BEGIN.length() + 20);
-        faulty(BEGIN + "house h lock 1;dear a to h 1;", 5, BEGIN.length() + 20);
-        faulty(BEGIN + "house h lock 1;dear x to x 1;", 5, BEGIN.length() + 25);
-        faulty(BEGIN + "dear x to h 1;house h lock 1;", 5, BEGIN.length() + 10);
-        faulty(BEGIN + "house h lock 1;dear x to h 1;dear y to h 1;dear x to h 1;", 3, BEGIN.length() + 53);
-        faulty("house h lock 1 has x;kind a;thing x of a weight 1 worth 1;", 5, 19);
+        Due.sound("kind a;thing a of a weight 1 worth 1;house a lock 1 has a;", 1);
+        Due.faulty("kind a;thing x of b weight", 5, 18);
+        Due.faulty(BEGIN + "house h lock 1 has z;", 5, BEGIN.length() + 19);
+        Due.faulty(BEGIN + "house h lock 1 has of;", 2, BEGIN.length() + 19);
+        Due.faulty(BEGIN + "house h lock 1 has x;thief p sack 1 skill 1 has y has x;", 3, BEGIN.length() + 54);
+        Due.faulty(BEGIN + "house h lock 1 has x has x;", 3, BEGIN.length() + 25);
+        Due.faulty(BEGIN + "house h lock 1;dear z to h 1;", 5, BEGIN.length() + 20);
+        Due.faulty(BEGIN + "house h lock 1;dear a to h 1;", 5, BEGIN.length() + 20);
+        Due.faulty(BEGIN + "house h lock 1;dear x to x 1;", 5, BEGIN.length() + 25);
+        Due.faulty(BEGIN + "dear x to h 1;house h lock 1;", 5, BEGIN.length() + 10);
+        Due.faulty(BEGIN + "house h lock 1;dear x to h 1;dear y to h 1;dear x to h 1;", 3, BEGIN.length() + 53);
+        Due.faulty("house h lock 1 has x;kind a;thing x of a weight 1 worth 1;", 5, 19);
     }
 
     private static void numbers() {
-        faulty("night 0;", 4, 6);
-        faulty("night 10;", 4, 6);
-        sound("night 1;house h lock 0 watch 0;", 0);
-        faulty("night 1;house h lock 0 watch 1;", 4, 29);
-        faulty("house h lock 10;", 4, 13);
-        faulty("house h lock 1 watch 6;", 4, 21);
-        sound("house h lock 1 watch 5;", 0);
-        faulty("house h lock 1 watch 5 watch 0 watch 5;", 3, 37);
-        sound("house h lock 1 watch 5;house g lock 1 watch 5;", 0);
-        faulty("thief p sack 1000 skill 1;", 4, 13);
-        faulty("thief p sack 999 skill 10;", 4, 23);
-        faulty("kind a;thing x of a weight 100 worth 1;", 4, 27);
-        faulty("kind a;thing x of a weight 99 worth 100;", 4, 36);
-        faulty(BEGIN + "house h lock 1;dear x to h 100;", 4, BEGIN.length() + 27);
+        Due.faulty("night 0;", 4, 6);
+        Due.faulty("night 10;", 4, 6);
+        Due.sound("night 1;house h lock 0 watch 0;", 0);
+        Due.faulty("night 1;house h lock 0 watch 1;", 4, 29);
+        Due.faulty("house h lock 10;", 4, 13);
+        Due.faulty("house h lock 1 watch 6;", 4, 21);
+        Due.sound("house h lock 1 watch 5;", 0);
+        Due.faulty("house h lock 1 watch 5 watch 0 watch 5;", 3, 37);
+        Due.sound("house h lock 1 watch 5;house g lock 1 watch 5;", 0);
+        Due.faulty("thief p sack 1000 skill 1;", 4, 13);
+        Due.faulty("thief p sack 999 skill 10;", 4, 23);
+        Due.faulty("kind a;thing x of a weight 100 worth 1;", 4, 27);
+        Due.faulty("kind a;thing x of a weight 99 worth 100;", 4, 36);
+        Due.faulty(BEGIN + "house h lock 1;dear x to h 100;", 4, BEGIN.length() + 27);
     }
 
     private static void tooMany() {
@@ -194,68 +173,68 @@ public final class TextTest {
         for (char c = 'a'; c < 'g'; c++) {
             kinds.append("kind ").append(c).append(";");
         }
-        sound(kinds.toString(), 0);
-        faulty(kinds + "kind g;", 2, kinds.length());
+        Due.sound(kinds.toString(), 0);
+        Due.faulty(kinds + "kind g;", 2, kinds.length());
         StringBuilder things = new StringBuilder("kind a;");
         for (char c = 'a'; c < 'k'; c++) {
             things.append("thing ").append(c).append(" of a weight 1 worth 1;");
         }
-        sound(things.toString(), 10);
-        faulty(things + "thing k of a weight 1 worth 1;", 2, things.length());
+        Due.sound(things.toString(), 10);
+        Due.faulty(things + "thing k of a weight 1 worth 1;", 2, things.length());
         StringBuilder houses = new StringBuilder();
         for (char c = 'a'; c < 'f'; c++) {
             houses.append("house ").append(c).append(" lock 1;");
         }
-        sound(houses.toString(), 0);
-        faulty(houses + "house f lock 1;", 2, houses.length());
+        Due.sound(houses.toString(), 0);
+        Due.faulty(houses + "house f lock 1;", 2, houses.length());
         StringBuilder thieves = new StringBuilder();
         for (char c = 'p'; c < 't'; c++) {
             thieves.append("thief ").append(c).append(" sack 1 skill 1;");
         }
-        sound(thieves.toString(), 0);
-        sound(houses.toString() + thieves, 0);
-        faulty(thieves + "thief t sack", 2, thieves.length());
+        Due.sound(thieves.toString(), 0);
+        Due.sound(houses.toString() + thieves, 0);
+        Due.faulty(thieves + "thief t sack", 2, thieves.length());
         StringBuilder dears = new StringBuilder(things + "house h lock 1;house g lock 1;thief p sack 1 skill 1;");
         for (char c = 'a'; c < 'k'; c++) {
             dears.append("dear ").append(c).append(" to h 1;dear ").append(c).append(" to p 1;");
         }
-        sound(dears.toString(), 10);
-        faulty(dears + "dear a to g 1;", 2, dears.length());
+        Due.sound(dears.toString(), 10);
+        Due.faulty(dears + "dear a to g 1;", 2, dears.length());
     }
 
     private static void formulas() {
-        sound("law not (taken+1)*2-left/took%gave<alike and hour or skill;", 0);
-        sound("law not not not not not not not 1;", 0);
-        faulty("law not not not not not not not not 1;", 2, 32);
-        sound("law (((((((1)))))));", 0);
-        faulty("law ((((((((1", 2, 11);
-        faulty("law not(not(not(not 1)));law", 2, 25);
-        sound("law not(not(not(not 1)));", 0);
-        faulty("law not(not(not(not(1))));", 2, 19);
-        faulty("law (((((((not 1)))))));", 2, 11);
-        sound("law (((((((1+2*3)))))));", 0);
-        sound("law 1" + times("+1", 29) + ";", 0);
-        faulty("law 1" + times("+1", 30) + ";", 2, 64);
+        Due.sound("law not (taken+1)*2-left/took%gave<alike and hour or skill;", 0);
+        Due.sound("law not not not not not not not 1;", 0);
+        Due.faulty("law not not not not not not not not 1;", 2, 32);
+        Due.sound("law (((((((1)))))));", 0);
+        Due.faulty("law ((((((((1", 2, 11);
+        Due.faulty("law not(not(not(not 1)));law", 2, 25);
+        Due.sound("law not(not(not(not 1)));", 0);
+        Due.faulty("law not(not(not(not(1))));", 2, 19);
+        Due.faulty("law (((((((not 1)))))));", 2, 11);
+        Due.sound("law (((((((1+2*3)))))));", 0);
+        Due.sound("law 1" + times("+1", 29) + ";", 0);
+        Due.faulty("law 1" + times("+1", 30) + ";", 2, 64);
         // a unit ( e ) is one, and so are those in it
-        sound("law (1)" + times("+1", 28) + ";", 0);
-        faulty("law (1)" + times("+1", 29) + ";", 2, 64);
-        faulty("law 1" + times("+1", 29) + "+(1);", 2, 64);
-        sound("law " + times("not not not not not not not 1 and ", 29) + "1;", 0);
-        faulty("law", 2, 3);
-        faulty("law ;", 2, 4);
-        faulty("law 1+;", 2, 6);
-        faulty("law 1 2;", 2, 6);
-        faulty("law (1;", 2, 6);
-        faulty("law 1);", 2, 5);
-        faulty("law ();", 2, 5);
-        faulty("law 1<2>3;", 2, 7);
-        faulty("law -1;", 2, 4);
-        faulty("law 1+not 1;", 2, 6);
-        faulty("law 1<not 1;", 2, 6);
-        faulty("law not;", 2, 7);
-        faulty("law x;", 2, 4);
-        faulty("law worth;", 2, 4);
-        faulty("law 1 and;", 2, 9);
+        Due.sound("law (1)" + times("+1", 28) + ";", 0);
+        Due.faulty("law (1)" + times("+1", 29) + ";", 2, 64);
+        Due.faulty("law 1" + times("+1", 29) + "+(1);", 2, 64);
+        Due.sound("law " + times("not not not not not not not 1 and ", 29) + "1;", 0);
+        Due.faulty("law", 2, 3);
+        Due.faulty("law ;", 2, 4);
+        Due.faulty("law 1+;", 2, 6);
+        Due.faulty("law 1 2;", 2, 6);
+        Due.faulty("law (1;", 2, 6);
+        Due.faulty("law 1);", 2, 5);
+        Due.faulty("law ();", 2, 5);
+        Due.faulty("law 1<2>3;", 2, 7);
+        Due.faulty("law -1;", 2, 4);
+        Due.faulty("law 1+not 1;", 2, 6);
+        Due.faulty("law 1<not 1;", 2, 6);
+        Due.faulty("law not;", 2, 7);
+        Due.faulty("law x;", 2, 4);
+        Due.faulty("law worth;", 2, 4);
+        Due.faulty("law 1 and;", 2, 9);
         BetterThieves x = Due.city("law left+alike>taken and (hour<2);");
         Due.is("units", x.about(14), 6);
     }
