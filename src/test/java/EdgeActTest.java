@@ -67,13 +67,16 @@ public final class EdgeActTest {
         BetterThieves x = Due.city(CITY);
         Due.is("LAWFUL", x.theft(0, 0, 1, 2), 1);
         hourIs("behind it", x, 0, 1);
+        Due.is("no CRIME", x.thief(0, 1), 0);
         Due.is("moved", x.has(0, true), 1);
         Due.is("moved", x.has(0, false), 2);
         Due.is("CAUGHT, LAWFUL or not", x.theft(1, 0, 2, 0), 2);
         hourIs("behind it", x, 0, 2);
         Due.is("nothing moved", x.has(1, true), 0);
+        Due.is("no CRIME", x.about(8), 0);
         Due.is("not LAWFUL", x.theft(0, 0, 2, 1), 0);
         hourIs("behind it", x, 1, 0);
+        Due.is("a CRIME", x.thief(0, 1), 1);
         Due.is("moved", x.has(0, true), 2);
         Due.is("moved", x.has(0, false), 1);
         Due.is("ACTS", x.about(9), 3);
@@ -161,8 +164,8 @@ public final class EdgeActTest {
 
     private static void gifts() {
         Due.by("a GIFT: a THING is at another HOLDER (whatever weight; no HOUR goes by).");
-        BetterThieves x = Due.city("night 2;" + Texts.weights(99, 99) + Texts.houses(5) + "thief pa sack 0 skill 0 has a;"
-                + Texts.thieves(4).substring(Texts.thieves(1).length()));
+        BetterThieves x = Due.city("night 2;" + Texts.weights(99, 99) + Texts.houses(5)
+                + "thief pa sack 0 skill 0 has a;" + Texts.thieves(4).substring(Texts.thieves(1).length()));
         for (int i = 0; i < 9; i++) {
             int holder = i < 5 ? i : i - 5;
             boolean thief = i >= 5;
@@ -191,7 +194,8 @@ public final class EdgeActTest {
     }
 
     private static BetterThieves inNight200() {
-        BetterThieves x = Due.city("night 1;" + Texts.worths(5, 7) + "house ha lock 0 has a;thief pa sack 9 skill 0 has b;");
+        BetterThieves x = Due.city("night 1;" + Texts.worths(5, 7) + "house ha lock 0 has a;"
+                + "thief pa sack 9 skill 0 has b;");
         for (int i = 0; i < 200; i++) {
             x.waits();
         }
@@ -200,7 +204,8 @@ public final class EdgeActTest {
 
     private static void night200() {
         Due.by("or it is NIGHT 200.");
-        BetterThieves x = Due.city("night 2;" + Texts.worths(5, 7) + "house ha lock 0 has a;thief pa sack 9 skill 0 has b;");
+        BetterThieves x = Due.city("night 2;" + Texts.worths(5, 7) + "house ha lock 0 has a;"
+                + "thief pa sack 9 skill 0 has b;");
         for (int i = 1; i < 400; i++) {
             Due.is("waits", x.waits(), i % 2);
         }
@@ -258,7 +263,8 @@ public final class EdgeActTest {
             Due.is("to be redone", x.about(10), 0);
         }
         // who was CAUGHT, in the last HOUR and ahead of it
-        BetterThieves x = Due.city("night 2;" + Texts.worths(5) + "house ha lock 0 watch 0 watch 1 has a;" + Texts.thieves(2));
+        BetterThieves x = Due.city("night 2;" + Texts.worths(5) + "house ha lock 0 watch 0 watch 1 has a;"
+                + Texts.thieves(2));
         x.theft(0, 0, 1, 0);
         int[] between = state(x);
         Due.is("one in JAIL", x.about(7), 1);
@@ -298,7 +304,8 @@ public final class EdgeActTest {
 
     private static void redoTillAnother() {
         Due.by("REDO does that again which was taken back last (till another ACT);");
-        Twins.Call[] others = {x -> x.theft(0, 0, 1, 2), x -> x.theft(0, 0, 1, 0), x -> x.waits(), x -> of(x.gift(3, 1, true))};
+        Twins.Call[] others = {x -> x.theft(0, 0, 1, 2), x -> x.theft(0, 0, 1, 0), x -> x.waits(),
+            x -> of(x.gift(3, 1, true))};
         for (Twins.Call other : others) {
             BetterThieves x = twoUndone();
             Due.is("another ACT", other.on(x) >= 0, true);
@@ -315,7 +322,8 @@ public final class EdgeActTest {
         Due.is("to be redone", y.about(10), 0);
         // what is refused, asked, kept or told is no ACT
         Twins.Call[] none = {x -> x.theft(0, 0, 2, 0), x -> of(x.gift(0, 0, false)), x -> x.best(0), x -> x.image(0),
-            x -> x.report(0, 0, 1, 0, true), x -> x.later(5), x -> x.feed(0, 0, 0, 0, 0), x -> x.back(1), x -> x.tour(0, 0)};
+            x -> x.report(0, 0, 1, 0, true), x -> x.later(5), x -> x.feed(0, 0, 0, 0, 0), x -> x.back(1),
+            x -> x.tour(0, 0)};
         for (int i = 0; i < none.length; i++) {
             BetterThieves x = twoUndone();
             none[i].on(x);
@@ -530,6 +538,9 @@ public final class EdgeActTest {
         for (int i = 0; i < 16; i++) {
             Due.is("full, about(" + i + ")", x.about(i), want[i]);
         }
+        Due.by("4: the NIGHT, 5: the HOUR, 6: HOURS of a NIGHT, 7: who is in JAIL (bits), 8: CRIMES in all, "
+                + "9: ACTS that can be undone, 10: redone, 11: REPORTS, 12: the TIME, 13: bytes on the TAPE, "
+                + "14: units, 15: how many lie there. NONE for another what.");
         Due.is("about(16)", x.about(16), -1);
         Due.is("about(-1)", x.about(-1), -1);
         Due.is("about(max)", x.about(Integer.MAX_VALUE), -1);

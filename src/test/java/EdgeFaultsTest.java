@@ -21,6 +21,7 @@ public final class EdgeFaultsTest {
         tapeIsEmptyThen();
         allStays();
         allAsTold();
+        cityBehindCity();
         Due.finish();
     }
 
@@ -98,8 +99,8 @@ public final class EdgeFaultsTest {
     }
 
     private static void cantStand() {
-        Due.by("2 one that can't stand there (one of a sort too many, a second time, night behind another line: "
-                + "at the line's first word;");
+        Due.by("2 one that can't stand there (one of a sort too many, a second time, night behind another line: at "
+                + "the line's first word;");
         String[] lines = {"night 3;", "kind a;", "thing x of a weight 1 worth 2;", "house h lock 1 watch 1 has x;",
             "thief p sack 1 skill 1 has x;", "dear x to h 3;", "law not left;"};
         String[] ahead = {"", "", "kind a;", "kind a;thing x of a weight 1 worth 2;",
@@ -121,7 +122,8 @@ public final class EdgeFaultsTest {
                 }
                 Due.faulty(ahead + line.substring(0, i) + ")" + line.substring(end), 2, ahead.length() + i);
                 Due.faulty(ahead + line.substring(0, i) + ")" + line.substring(i), 2, ahead.length() + i);
-                Due.faulty(ahead + line.substring(0, i) + " weight " + line.substring(i), 2 , weightPlace(ahead, line, i));
+                int place = weightPlace(ahead, line, i);
+                Due.faulty(ahead + line.substring(0, i) + " weight " + line.substring(i), 2, place);
             }
         }
     }
@@ -142,8 +144,8 @@ public final class EdgeFaultsTest {
     }
 
     private static void toldAlready() {
-        Due.by("3 a NAME told already (of its sort), a THING that some HOLDER has, an HOUR told already for that watch, "
-                + "a THING told dear to that HOLDER already (at the HOLDER's NAME);");
+        Due.by("3 a NAME told already (of its sort), a THING that some HOLDER has, an HOUR told already for that "
+                + "watch, a THING told dear to that HOLDER already (at the HOLDER's NAME);");
         Due.faulty("kind a;kind b;kind a;", 3, 19);
         Due.faulty("kind a;kind b;kind b;", 3, 19);
         Due.faulty(BEGIN + "thing x", 3, AT + 6);
@@ -288,8 +290,8 @@ public final class EdgeFaultsTest {
     }
 
     private static void allAsTold() {
-        Due.by("(all as told, no ACTS are kept, REPORTS are none, nothing lies there, BOXES are empty then; "
-                + "the TIME stays): how many THINGS;");
+        Due.by("(all as told, no ACTS are kept, REPORTS are none, nothing lies there, BOXES are empty then;"
+                + " the TIME stays): how many THINGS;");
         BetterThieves x = busy();
         Due.feed(x, "night 3;" + BEGIN + "thing y of a weight 1 worth 9;thief p sack 9 skill 1 has y;");
         Due.is("city", x.city(), 2);
@@ -315,5 +317,53 @@ public final class EdgeFaultsTest {
         Due.is("no THING", x.thing(0, 0), -2);
         Due.is("no HOUSE", x.has(0, false), -1);
         Due.is("no THIEF", x.has(0, true), -1);
+    }
+
+    /** Whatever was told and done before, a CITY is as if it were the first one. */
+    private static void cityBehindCity() {
+        String[] texts = {"", "night 9;law 1;", "night 1;house h lock 1 watch 0;", busyText(),
+            Texts.things(10) + Texts.houses(2) + Texts.dears(20), BEGIN + "dear x to h 9;",
+            Texts.kinds(6) + Texts.houses(5), Texts.thieves(4) + "law left-left;"};
+        String[] faults = {"night 9;law 1;kind a;kind a;", "#",
+            Texts.things(3) + "house ha lock 0 watch 1 has a has a;"};
+        for (int i = 0; i < texts.length; i++) {
+            for (int j = 0; j < texts.length; j++) {
+                BetterThieves x = Due.city(texts[i]);
+                stir(x);
+                // what one of them leaves may be seen in the next but one alone
+                for (int k = 0; k < 2; k++) {
+                    Due.feed(x, faults[(i + j + k) % faults.length]);
+                    x.city();
+                }
+                Due.feed(x, texts[(i + j) % texts.length]);
+                x.city();
+                stir(x);
+                Due.feed(x, texts[j]);
+                x.city();
+                Twins.alike("CITY " + j + " behind CITY " + i, x, Due.city(texts[j]), true);
+            }
+        }
+    }
+
+    private static String busyText() {
+        return "night 2;" + BEGIN + "thing y of a weight 1 worth 9;thief p sack 9 skill 1 has y;"
+                + "house g lock 1 watch 0;dear y to g 3;law not taken;";
+    }
+
+    private static void stir(BetterThieves x) {
+        x.gift(0, 1, false);
+        x.gift(1, 0, true);
+        x.theft(0, 1, 1, 0);
+        x.theft(0, 0, 1, 0);
+        x.image(1);
+        x.waits();
+        x.report(0, 1, 0, 0, true);
+        x.best(0);
+        x.span(0, 0, 0, 0);
+        x.lie(0, 1, 0);
+        x.tour(0, 0);
+        x.undo();
+        x.gift(0, 1, false);
+        x.theft(0, 1, 1, 0);
     }
 }

@@ -22,6 +22,8 @@ public final class EdgeFormulaTest {
 
     private static void unitsInOne() {
         Due.by("60 units in all, 30 in one e");
+        Due.is("all thirty are there", Due.city("law 1" + "+1".repeat(29) + ";").about(14), 30);
+        Due.by("a unit too many, what is within 7 others: at its first TOKEN, or the not);");
         for (String sign : new String[] {"+", "-", "*", "/", "%", " and ", " or "}) {
             String thirty = "law 1" + (sign + "1").repeat(29);
             Due.sound(thirty + ";", 0);
@@ -101,6 +103,9 @@ public final class EdgeFormulaTest {
     }
 
     private static void grammar() {
+        Due.by("one = not one | sum [(< | > | =) sum]. sum = term {(+ | -) term}. term = unit {(* | / | %) unit}. "
+                + "unit = N | taken | left | took | gave | alike | hour | skill | ( e ).");
+        Due.sound("law not not 1<2 and not 3+4-5>6*7/8%9 or taken=left and took or (gave)*(alike or hour)-skill;", 0);
         Due.faulty("law 1=1=1;", 2, 7);
         Due.faulty("law 1<1>1;", 2, 7);
         Due.sound("law (1<1)>1;", 0);
@@ -156,6 +161,17 @@ public final class EdgeFormulaTest {
                     + " and gave=" + d[5] + ";");
             Due.is("taken " + d[0] + ", left " + d[1], x.may(0, 0, d[0], d[1], 2), 1);
         }
+        // the first THING and the last, TAKEN and LEFT
+        String ends = Texts.worths(1, 2, 3, 4, 5, 6, 7, 8, 9, 10) + "house ha lock 0" + Texts.has(1, 8)
+                + ";thief pa sack 99 skill 0 has a has j;law ";
+        BetterThieves first = Due.city(ends + "left=1 and gave=1 and alike=1;");
+        Due.is("THING 0 LEFT", first.may(0, 0, 2, 1, 2), 1);
+        BetterThieves last = Due.city(ends + "left=11 and taken=2 and gave=2 and alike=2;");
+        Due.is("THINGS 0 and 9 LEFT", last.may(0, 0, 2, 513, 2), 1);
+        BetterThieves taken = Due.city(ends + "taken=11 and took=2;");
+        taken.gift(0, 0, false);
+        taken.gift(9, 0, false);
+        Due.is("THINGS 0 and 9 TAKEN", taken.may(0, 0, 513, 0, 2), 1);
         Due.by("hour; skill of the THIEF;");
         for (int hour = 0; hour < 9; hour++) {
             BetterThieves x = Due.city(city + "hour=" + hour + ";");
@@ -289,10 +305,21 @@ public final class EdgeFormulaTest {
             Due.is("5 for " + left, x.may(0, 0, 1, 2, 2), left > 5 ? 1 : 0);
             Due.is("5 for none", x.may(0, 0, 1, 0, 2), 0);
         }
-        BetterThieves zero = Due.city(Texts.worths(0, 0, 1) + "house h lock 1 has a;thief p sack 9 skill 1 has b has c;");
+        BetterThieves zero = Due.city(Texts.worths(0, 0, 1) + "house h lock 1 has a;"
+                + "thief p sack 9 skill 1 has b has c;");
         Due.is("0 for none", zero.may(0, 0, 1, 0, 2), 0);
         Due.is("0 for 0", zero.may(0, 0, 1, 2, 2), 0);
         Due.is("0 for 1", zero.may(0, 0, 1, 4, 2), 1);
+        // nothing of a law told before is left in a shorter one
+        BetterThieves again = new BetterThieves();
+        String[] laws = {"law not not not 1;", "law 1;", "law 1;", "law 0-1-1-1;", "law 0+0+0*5;", "law 0;",
+                "law not 1 or 0;", "", "law 1;"};
+        int[] lawful = {0, 1, 1, 1, 0, 0, 0, 0, 1};
+        for (int i = 0; i < laws.length; i++) {
+            Due.feed(again, Texts.worths(5, 5) + "house h lock 1 has a;thief p sack 9 skill 1 has b;" + laws[i]);
+            Due.is("city", again.city(), 2);
+            Due.is(laws[i], again.may(0, 0, 1, 2, 2), lawful[i]);
+        }
         // a law told before is none now
         BetterThieves x = Due.city("law 1;");
         Due.feed(x, Texts.worths(5, 5) + "house h lock 1 has a;thief p sack 9 skill 1 has b;");

@@ -7,7 +7,10 @@ public final class EdgeHoldTest {
         newObject();
         feed();
         end();
-        lastOfEach();
+        constants();
+        lastThing();
+        lastHolder();
+        lastOfTheft();
         worth();
         whereThingsAre();
         sums();
@@ -108,8 +111,16 @@ public final class EdgeHoldTest {
         Due.is("KINDS", x.about(3), 0);
     }
 
-    private static void lastOfEach() {
-        Due.by("-2 if there is none such, or for another what.");
+    private static void constants() {
+        Due.by("`NONE = -1`: There is none.");
+        Due.is("NONE", BetterThieves.NONE, -1);
+        Due.by("`GAP = -1000000`: No number is there.");
+        Due.is("GAP", BetterThieves.GAP, -1000000);
+    }
+
+    private static void lastThing() {
+        Due.by("Of a THING what 0: its KIND, 1: weight, 2: worth, 3: the HOUSE where it is (NONE: in none), "
+                + "4: the THIEF (NONE); -2 if there is none such, or for another what.");
         BetterThieves x = Due.city(Texts.full());
         for (int what = 0; what < 5; what++) {
             Due.is("thing(0, " + what + ")", x.thing(0, what), new int[] {5, 99, 99, 0, -1}[what]);
@@ -120,6 +131,17 @@ public final class EdgeHoldTest {
         }
         Due.is("thing(9, 5)", x.thing(9, 5), -2);
         Due.is("thing(9, -1)", x.thing(9, -1), -2);
+        x.gift(9, 4, false);
+        Due.is("in the last HOUSE", x.thing(9, 3), 4);
+        Due.is("in no STOCK", x.thing(9, 4), -1);
+        x.gift(9, 3, true);
+        Due.is("in no HOUSE", x.thing(9, 3), -1);
+        Due.is("in the last STOCK", x.thing(9, 4), 3);
+    }
+
+    private static void lastHolder() {
+        Due.by("What a HOUSE (false), a THIEF (true) has, as bits; NONE if there is none such.");
+        BetterThieves x = Due.city(Texts.full());
         Due.is("worth(9, 4, false)", x.worth(9, 4, false), 99);
         Due.is("worth(9, 5, false)", x.worth(9, 5, false), -1);
         Due.is("worth(9, 3, true)", x.worth(9, 3, true), 99);
@@ -133,6 +155,17 @@ public final class EdgeHoldTest {
         Due.is("sum(5, false)", x.sum(5, false), -1);
         Due.is("sum(3, true)", x.sum(3, true), 99);
         Due.is("sum(4, true)", x.sum(4, true), -1);
+        for (int t = 0; t < 10; t++) {
+            x.gift(t, 4, false);
+        }
+        Due.is("all ten", x.has(4, false), 1023);
+        Due.is("none", x.has(3, true), 0);
+        Due.is("none", x.has(0, false), 0);
+    }
+
+    private static void lastOfTheft() {
+        Due.by("Whether a THEFT (sets as bits) what 0: CAN be, 1: is SEEN now, 2: is LAWFUL now: 1, else 0;");
+        BetterThieves x = Due.city(Texts.full());
         Due.is("thief(3, 2)", x.thief(3, 2), 99);
         Due.is("thief(4, 2)", x.thief(4, 2), -1);
         Due.is("thief(3, 3)", x.thief(3, 3), -1);
@@ -145,6 +178,18 @@ public final class EdgeHoldTest {
         Due.is("theft(4, 4, 16, 256)", x.theft(4, 4, 16, 256), -1);
         Due.is("theft(3, 4, 16, 256)", x.theft(3, 4, 16, 256), 2);
         Due.is("about(7)", x.about(7), 8);
+        // each of the three, or not, whatever the others are: HOUSE 1 is watched, p is weak, b is worth more
+        BetterThieves y = Due.city(Texts.worths(5, 5, 4, 6) + "house ha lock 0 has a;house hb lock 0 watch 0 has b;"
+                + "thief p sack 0 skill 0 has c;thief q sack 9 skill 0 has d;");
+        for (int thief = 0; thief < 2; thief++) {
+            for (int house = 0; house < 2; house++) {
+                int left = thief == 0 ? 4 : 8;
+                Due.is("CAN", y.may(thief, house, 1 << house, left, 0), thief);
+                Due.is("SEEN", y.may(thief, house, 1 << house, left, 1), house);
+                Due.is("LAWFUL", y.may(thief, house, 1 << house, left, 2), thief);
+                Due.is("for none", y.may(thief, house, 1 << house, 0, 2), 0);
+            }
+        }
     }
 
     private static void worth() {
@@ -183,7 +228,8 @@ public final class EdgeHoldTest {
 
     private static void sums() {
         Due.by("What it has is WORTH to it, together; NONE likewise.");
-        BetterThieves x = Due.city(Texts.worths(99, 99, 99, 99, 99, 99, 99, 99, 99, 99) + "house h lock 0" + Texts.has(0, 9)
+        BetterThieves x = Due.city(Texts.worths(99, 99, 99, 99, 99, 99, 99, 99, 99, 99) + "house h lock 0"
+                + Texts.has(0, 9)
                 + ";house g lock 0;thief p sack 0 skill 0;dear j to h 0;dear a to g 1;");
         Due.is("nothing", x.sum(1, false), 0);
         Due.is("nothing", x.sum(0, true), 0);
@@ -303,7 +349,8 @@ public final class EdgeHoldTest {
         Due.is("990 in a sack of 989", all.may(1, 0, 7, 0, 0), 0);
         Due.is("891 in a sack of 989", all.may(1, 0, 3, 0, 0), 1);
         // who has too much already can't, but for what makes it light enough
-        BetterThieves heavy = Due.city(Texts.weights(1, 50, 2) + "house h lock 0 has a;thief p sack 9 skill 0 has b has c;");
+        BetterThieves heavy = Due.city(Texts.weights(1, 50, 2) + "house h lock 0 has a;"
+                + "thief p sack 9 skill 0 has b has c;");
         Due.is("53", heavy.may(0, 0, 1, 0, 0), 0);
         Due.is("51", heavy.may(0, 0, 1, 4, 0), 0);
         Due.is("3", heavy.may(0, 0, 1, 2, 0), 1);
@@ -335,7 +382,8 @@ public final class EdgeHoldTest {
 
     private static void jail() {
         Due.by("It CAN be, if he is not in JAIL,");
-        BetterThieves x = Due.city("night 3;" + Texts.worths(1, 2) + "house h lock 0 watch 0 has a;thief p sack 9 skill 0 has b;"
+        BetterThieves x = Due.city("night 3;" + Texts.worths(1, 2) + "house h lock 0 watch 0 has a;"
+                + "thief p sack 9 skill 0 has b;"
                 + "thief q sack 9 skill 0;");
         Due.is("he CAN", x.may(0, 0, 1, 2, 0), 1);
         Due.is("CAUGHT", x.theft(0, 0, 1, 2), 2);
@@ -353,7 +401,8 @@ public final class EdgeHoldTest {
     private static void seen() {
         Due.by("It is SEEN in an HOUR of the HOUSE's watch.");
         for (int n = 1; n <= 9; n++) {
-            BetterThieves x = Due.city("night " + n + ";" + Texts.things(3) + "house ha lock 0 watch 0 has a;house hb lock 0 watch "
+            BetterThieves x = Due.city("night " + n + ";" + Texts.things(3) + "house ha lock 0 watch 0 has a;"
+                    + "house hb lock 0 watch "
                     + (n - 1) + " has b;house hc lock 0" + Texts.watches(n) + " has c;thief p sack 9 skill 0;");
             for (int hour = 0; hour <= n + 1; hour++) {
                 Due.is("HOUR 0 alone", x.may(0, 0, 1, 0, 1), hour % n == 0 ? 1 : 0);

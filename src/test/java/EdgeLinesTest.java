@@ -4,6 +4,7 @@ public final class EdgeLinesTest {
     }
 
     public static void main(String[] args) {
+        forms();
         night();
         nightFirst();
         kinds();
@@ -33,6 +34,31 @@ public final class EdgeLinesTest {
         }
         // no sign is part of a number
         Due.faulty(before + "-1" + behind, 2, before.length());
+    }
+
+    private static void forms() {
+        Due.by("line = kind NAME ; | thing NAME of NAME weight N worth N ; | house NAME lock N {watch N} {has NAME} ; "
+                + "| thief NAME sack N skill N {has NAME} ; | dear NAME to NAME N ; | law e ; | night N ;.");
+        // of {} none, one, many
+        for (int watches = 0; watches <= 6; watches++) {
+            for (int things = 0; things <= 3; things++) {
+                String house = Texts.things(3) + "house h lock 1" + Texts.watches(watches) + Texts.has(0, things - 1);
+                Due.sound(house + ";", 3);
+                Due.is("it has", Due.city(house + ";").has(0, false), (1 << things) - 1);
+                if (things > 0) {
+                    Due.faulty(house + " watch 5;", 2, house.length() + 1);
+                }
+                Due.faulty(house, 2, house.length());
+            }
+        }
+        for (int things = 0; things <= 3; things++) {
+            String thief = Texts.things(3) + "thief p sack 1 skill 1" + Texts.has(0, things - 1);
+            Due.is("he has", Due.city(thief + ";").has(0, true), (1 << things) - 1);
+            Due.faulty(thief + " watch 1;", 2, thief.length() + 1);
+        }
+        // in any order, as far as what is named is told ahead
+        Due.sound("law 1;thief p sack 1 skill 1;house h lock 1;kind b;kind a;thing x of a weight 1 worth 1;"
+                + "dear x to p 1;house g lock 1 has x;dear x to g 1;thing y of b weight 1 worth 1;", 2);
     }
 
     private static void night() {

@@ -66,7 +66,8 @@ public final class EdgeReportTest {
     }
 
     private static void reportRanges() {
-        Due.by("NONE, doing nothing, if one can't be (the same THING twice, an HOUR that no NIGHT has, too), or there are 30.");
+        Due.by("NONE, doing nothing, if one can't be (the same THING twice, an HOUR that no NIGHT has, too), or there "
+                + "are 30.");
         for (int n = 1; n <= 9; n++) {
             BetterThieves x = Due.city("night " + n + ";" + Texts.things(2) + "house ha lock 0;");
             Due.is("HOUR -1", x.report(0, 0, 1, -1, true), -1);
@@ -212,8 +213,8 @@ public final class EdgeReportTest {
     }
 
     private static void spanRange() {
-        Due.by("SPAN of a THING in a HOUSE: its WORTHS (0 .. 99) to it by which, all else as told, "
-                + "all REPORTS of that HOUSE that count are so: how many; the least, the most.");
+        Due.by("SPAN of a THING in a HOUSE: its WORTHS (0 .. 99) to it by which, all else as told, all REPORTS of "
+                + "that HOUSE that count are so: how many; the least, the most.");
         // what alone is so: 0, 99, and what is beyond
         for (int worth : new int[] {0, 1, 50, 98, 99, 100, 101}) {
             BetterThieves x = Due.city(CITY + "law taken=" + worth + ";");
@@ -242,7 +243,10 @@ public final class EdgeReportTest {
         Due.is("the least", x.span(0, 0, 1, 0), -1);
         Due.is("the most", x.span(0, 0, 2, 0), -1);
         Due.is("of each THING", x.span(0, 2, 0, 0), 0);
-        Due.is("in that HOUSE alone", x.span(1, 0, 0, 0), 100);
+        for (int what = 0; what < 3; what++) {
+            Due.is("in that HOUSE alone", x.span(1, 0, what, 0), new int[] {100, 0, 99}[what]);
+            Due.is("asked again", x.span(0, 0, what, 0), new int[] {0, -1, -1}[what]);
+        }
         BetterThieves full = Due.city(Texts.full());
         Due.is("the last of each", full.span(4, 9, 2, 0), 99);
         Due.is("HOUSE 5", full.span(5, 9, 2, 0), -2);
@@ -306,8 +310,9 @@ public final class EdgeReportTest {
     }
 
     private static void ask() {
-        Due.by("ASK: the two THINGS (taken, left; the first counts most) at HOUR 0 for which the most of the SPAN that are left, "
-                + "whatever is reported, are fewest;");
+        Due.by("ASK: the two THINGS (taken, left;"
+                + " the first counts most) at HOUR 0 for which the most of the SPAN that are left, whatever is "
+                + "reported, are fewest;");
         // a for b leaves 0 .. 49 or 50 .. 99
         BetterThieves x = Due.city(CITY);
         Due.is("a for b", x.ask(0, 0, 0, 0), 1);
@@ -334,7 +339,8 @@ public final class EdgeReportTest {
         BetterThieves y = Due.city(Texts.worths(1, 30, 30) + "house ha lock 0;law taken<left and taken>left-100;");
         Due.is("a for b ahead of a for c", y.ask(0, 0, 0, 0), 10);
         Due.is("what is left", y.ask(0, 0, 1, 0), 69);
-        BetterThieves z = Due.city(Texts.worths(50, 50, 50) + "house ha lock 0;law taken<left+1 and left<taken+1 or taken<50;");
+        BetterThieves z = Due.city(Texts.worths(50, 50, 50) + "house ha lock 0;"
+                + "law taken<left+1 and left<taken+1 or taken<50;");
         Due.is("of c: c for a", z.ask(0, 2, 0, 0), 20);
         // taken counts most: 02 ahead of 10
         BetterThieves w = Due.city(Texts.worths(9, 9, 9) + "house ha lock 0;law taken<50 and left<50;");

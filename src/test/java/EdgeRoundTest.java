@@ -29,7 +29,8 @@ public final class EdgeRoundTest {
         for (int i = 0; i < things; i++) {
             worths[i] = i;
         }
-        return Texts.worths(worths) + "house ha lock 0" + Texts.has(1, things - 1) + ";thief pa sack 9 skill 0 has a;law taken=left+1"
+        return Texts.worths(worths) + "house ha lock 0" + Texts.has(1, things - 1) + ";thief pa sack 9 skill 0 has a;"
+                + "law taken=left+1"
                 + law + ";";
     }
 
@@ -60,7 +61,8 @@ public final class EdgeRoundTest {
     private static void byNumber() {
         Due.by("in each HOUR all THIEVES by number who are not in JAIL do their BEST, if its GAIN is more than 0.");
         // the first of them takes it, the next takes what he left, in the same HOUR
-        String city = Texts.worths(1, 2, 3, 4, 5) + "house ha lock 0 has a;thief pa sack 9 skill 0 has b;thief pb sack 9 skill 0 has c;"
+        String city = Texts.worths(1, 2, 3, 4, 5) + "house ha lock 0 has a;thief pa sack 9 skill 0 has b;"
+                + "thief pb sack 9 skill 0 has c;"
                 + "thief pc sack 9 skill 0 has d;thief pd sack 9 skill 0 has e;"
                 + "dear a to pa 90;dear b to pb 90;dear c to pc 90;dear d to pd 90;";
         BetterThieves x = Due.city(city);
@@ -71,13 +73,14 @@ public final class EdgeRoundTest {
         }
         Due.is("rests", x.rests(), 7);
         // two want the same: the first has it
-        BetterThieves y = Due.city(Texts.worths(1, 2, 3) + "house ha lock 0 has a;thief pa sack 9 skill 0 has b;thief pb sack 9 skill 0 has c;"
+        BetterThieves y = Due.city(Texts.worths(1, 2, 3) + "house ha lock 0 has a;thief pa sack 9 skill 0 has b;"
+                + "thief pb sack 9 skill 0 has c;"
                 + "dear a to pa 50;dear a to pb 99;");
         Due.is("the first", y.drift(0, 1), 10);
         Due.is("the first", y.drift(0, 60), 10);
         // each does one SWAP in an HOUR, not all
-        BetterThieves z = Due.city(Texts.worths(1, 1, 2, 2) + "house ha lock 0 has a has b;thief pa sack 9 skill 0 has c has d;"
-                + "dear a to pa 9;dear b to pa 8;");
+        BetterThieves z = Due.city(Texts.worths(1, 1, 2, 2) + "house ha lock 0 has a has b;"
+                + "thief pa sack 9 skill 0 has c has d;dear a to pa 9;dear b to pa 8;");
         Due.is("one", z.drift(0, 1), 10);
         Due.is("not two", z.drift(1, 1), 0);
         Due.is("in the next", z.drift(1, 2), 10);
@@ -85,7 +88,8 @@ public final class EdgeRoundTest {
 
     private static void gainAboveZero() {
         for (int gain = -1; gain <= 1; gain++) {
-            BetterThieves x = Due.city(Texts.worths(1, 2) + "house ha lock 0 has a;thief pa sack 9 skill 0 has b;dear a to pa "
+            BetterThieves x = Due.city(Texts.worths(1, 2) + "house ha lock 0 has a;thief pa sack 9 skill 0 has b;"
+                    + "dear a to pa "
                     + (50 + gain) + ";dear b to pa 50;");
             Due.is("BEST", x.best(0), gain);
             Due.is("GAIN " + gain, x.drift(0, 60), gain > 0 ? 10 : 0);
@@ -109,12 +113,14 @@ public final class EdgeRoundTest {
 
     private static void jailEnds() {
         // CAUGHT in the last HOUR he is free at once
-        BetterThieves x = Due.city("night 2;" + Texts.worths(1, 2) + "house ha lock 0 watch 1 has a;thief pa sack 9 skill 0 has b;dear a to pa 50;");
+        BetterThieves x = Due.city("night 2;" + Texts.worths(1, 2) + "house ha lock 0 watch 1 has a;"
+                + "thief pa sack 9 skill 0 has b;dear a to pa 50;");
         x.waits();
         Due.is("CAUGHT", x.theft(0, 0, 1, 2), 2);
         Due.is("free", x.drift(0, 1), 10);
         // CAUGHT ahead of it in a NIGHT of 9: it would rest ahead of the next NIGHT, were it shorter
-        BetterThieves y = Due.city("night 9;" + Texts.worths(1, 2) + "house ha lock 0 watch 0 has a;thief pa sack 9 skill 0 has b;dear a to pa 50;");
+        BetterThieves y = Due.city("night 9;" + Texts.worths(1, 2) + "house ha lock 0 watch 0 has a;"
+                + "thief pa sack 9 skill 0 has b;dear a to pa 50;");
         Due.is("CAUGHT", y.theft(0, 0, 1, 2), 2);
         Due.is("in JAIL for eight HOURS, then the watch", y.drift(0, 9), 0);
         Due.is("then", y.drift(0, 10), 10);
@@ -122,7 +128,8 @@ public final class EdgeRoundTest {
     }
 
     private static void drift() {
-        Due.by("Behind ROUNDS of n HOURS where a THING is: a HOUSE's number, 10 and a THIEF's; NONE: nowhere; -2 if one can't be.");
+        Due.by("Behind ROUNDS of n HOURS where a THING is: a HOUSE's number, 10 and a THIEF's; NONE: nowhere;"
+                + " -2 if one can't be.");
         BetterThieves x = Due.city(Texts.full());
         int[] want = {0, 1, 2, 3, 4, 10, 11, 12, 13, -1};
         for (int t = 0; t < 10; t++) {
@@ -149,7 +156,8 @@ public final class EdgeRoundTest {
     }
 
     private static void rests() {
-        Due.by("RESTS: the first HOUR behind which (from 1 on, 60 at most) nothing was moved in as many HOURS as a NIGHT has.");
+        Due.by("RESTS: the first HOUR behind which (from 1 on, 60 at most) nothing was moved in as many HOURS as a "
+                + "NIGHT has.");
         for (int n = 1; n <= 9; n++) {
             Due.is("nothing there", Due.city("night " + n + ";").rests(), n);
             // moves in the first k HOURS
@@ -162,6 +170,7 @@ public final class EdgeRoundTest {
 
     /** A move at one HOUR of each NIGHT of nine. */
     private static void restsAtSixty() {
+        Due.by("RESTS; NONE if it does not.");
         for (int hour = 0; hour < 9; hour++) {
             // six moves, behind 46 + hour HOURS the last
             BetterThieves six = Due.city("night 9;" + chain(7, " and hour=" + hour));
@@ -172,7 +181,8 @@ public final class EdgeRoundTest {
         BetterThieves never = Due.city("night 9;" + chain(8, " and hour=0"));
         Due.is("the seventh behind 55", never.rests(), -1);
         // two THIEVES move by turns: q takes a for c in the first HOUR, p takes c for b in the second
-        BetterThieves round = Due.city("night 1;" + Texts.worths(1, 1, 1) + "house ha lock 0 has a;thief pa sack 9 skill 0 has b;"
+        BetterThieves round = Due.city("night 1;" + Texts.worths(1, 1, 1) + "house ha lock 0 has a;"
+                + "thief pa sack 9 skill 0 has b;"
                 + "thief pb sack 9 skill 1 has c;dear a to pa 1;dear b to pa 2;dear c to pa 3;"
                 + "dear a to pb 3;dear b to pb 2;dear c to pb 1;law 1;");
         Due.is("rests", round.rests(), 3);
@@ -199,7 +209,8 @@ public final class EdgeRoundTest {
         Due.by("LIE of a HOUSE for n HOURS (1 .. 4):");
         // in each HOUR one of 1 .. 5 is taken for one of 10 .. 14, as a SWAP of most GAIN
         BetterThieves x = Due.city(Texts.worths(1, 2, 3, 4, 5, 10, 11, 12, 13, 14) + "house ha lock 0" + Texts.has(0, 4)
-                + ";thief pa sack 9 skill 0" + Texts.has(5, 9) + ";dear a to pa 60;dear b to pa 50;dear c to pa 40;dear d to pa 30;dear e to pa 20;"
+                + ";thief pa sack 9 skill 0" + Texts.has(5, 9) + ";dear a to pa 60;dear b to pa 50;dear c to pa 40;"
+                + "dear d to pa 30;dear e to pa 20;"
                 + "law left>taken and gave=1;");
         int[] sums = {24, 33, 42, 51};
         // a told 13 is taken for 14, b then for 10; or, of use from the third HOUR on, 10 told 0 is left for nothing
@@ -213,7 +224,8 @@ public final class EdgeRoundTest {
         Due.is("n 5", x.lie(0, 5, 0), -2);
         Due.is("n -1", x.lie(0, -1, 0), -2);
         // at the last HOUR alone it is of use: three HOURS are not enough
-        BetterThieves y = Due.city("night 4;" + Texts.worths(5, 9) + "house ha lock 0 watch 0 watch 1 watch 2 has a;thief pa sack 9 skill 0 has b;"
+        BetterThieves y = Due.city("night 4;" + Texts.worths(5, 9) + "house ha lock 0 watch 0 watch 1 watch 2 has a;"
+                + "thief pa sack 9 skill 0 has b;"
                 + "dear a to pa 60;law taken=7;");
         for (int n = 1; n <= 4; n++) {
             Due.is("what it has", y.lie(0, n, 0), n == 4 ? 9 : 5);
@@ -223,7 +235,8 @@ public final class EdgeRoundTest {
     }
 
     private static BetterThieves lyingCity(String law) {
-        return Due.city(Texts.worths(50, 60) + "house ha lock 0 has a;thief pa sack 9 skill 0 has b;dear a to pa 99;law " + law + ";");
+        return Due.city(Texts.worths(50, 60) + "house ha lock 0 has a;thief pa sack 9 skill 0 has b;dear a to pa 99;"
+                + "law " + law + ";");
     }
 
     private static void lieWorths() {
@@ -240,7 +253,8 @@ public final class EdgeRoundTest {
         }
         Due.is("both at once can't be told", lyingCity("taken=3 and left=4").lie(0, 1, 1), -1);
         // told in one HOUSE, it is not in another
-        BetterThieves two = Due.city(Texts.worths(50, 60) + "house ha lock 0;house hb lock 0 has a;thief pa sack 9 skill 0 has b;"
+        BetterThieves two = Due.city(Texts.worths(50, 60) + "house ha lock 0;house hb lock 0 has a;"
+                + "thief pa sack 9 skill 0 has b;"
                 + "dear a to pa 99;law taken=7;");
         Due.is("in its HOUSE", two.lie(1, 1, 0), 60);
         Due.is("in another", two.lie(0, 1, 0), 0);
@@ -248,17 +262,27 @@ public final class EdgeRoundTest {
     }
 
     private static void lieThings() {
-        // of each THING, wherever it is: here, in STOCK, elsewhere, nowhere
+        // told of any one of three, that one is taken for d: best is the one that is worth least to it
         for (int t = 0; t < 4; t++) {
             int[] worths = {30, 30, 30, 30};
             worths[t] = 31;
-            BetterThieves x = Due.city(Texts.worths(worths) + "house ha lock 0 has a has b has c;thief pa sack 9 skill 0 has d;"
+            BetterThieves x = Due.city(Texts.worths(worths) + "house ha lock 0 has a has b has c;"
+                    + "thief pa sack 9 skill 0 has d;"
                     + "dear a to pa 99;dear b to pa 98;dear c to pa 97;dear d to ha 80;law taken=5 or left=5;");
-            int thing = x.lie(0, 1, 1);
-            Due.is("the THING that is worth least here", thing, t == 0 ? 1 : 0);
+            Due.is("the THING", x.lie(0, 1, 1), t == 0 ? 1 : 0);
+        }
+        // of a THING that is elsewhere now: c is taken in the first HOUR, and left here in the second
+        BetterThieves far = Due.city(Texts.worths(50, 60, 1) + "house ha lock 0 has a;house hb lock 0 has c;"
+                + "thief pa sack 9 skill 0 has b;dear a to pa 99;dear c to pa 70;dear c to ha 90;law taken=1 or left=7;");
+        int[][] want = {{60, 0, 1}, {90, 2, 7}};
+        for (int n = 1; n <= 2; n++) {
+            for (int what = 0; what < 3; what++) {
+                Due.is("for " + n + " HOURS, what " + what, far.lie(0, n, what), want[n - 1][what]);
+            }
         }
         // THING 9 in the last HOUSE
-        BetterThieves last = Due.city(Texts.worths(9, 9, 9, 9, 9, 9, 9, 9, 60, 50) + Texts.houses(4) + "house he lock 0 has j;"
+        BetterThieves last = Due.city(Texts.worths(9, 9, 9, 9, 9, 9, 9, 9, 60, 50) + Texts.houses(4)
+                + "house he lock 0 has j;"
                 + "thief pa sack 9 skill 0 has i;dear j to pa 99;law taken=0;");
         Due.is("what it has", last.lie(4, 1, 0), 60);
         Due.is("the THING", last.lie(4, 1, 1), 9);
@@ -285,8 +309,9 @@ public final class EdgeRoundTest {
         Due.is("by THING", thing.lie(0, 1, 1), 0);
         Due.is("by THING", thing.lie(0, 1, 2), 20);
         // a later one that is more, by one
-        BetterThieves more = Due.city(Texts.worths(50, 60, 61) + "house ha lock 0 has a;thief pa sack 9 skill 0 has b has c;"
-                + "dear a to pa 99;law taken=3 and left=60 or taken=7 and left=61;");
+        BetterThieves more = Due.city(Texts.worths(50, 60, 61) + "house ha lock 0 has a;"
+                + "thief pa sack 9 skill 0 has b has c;dear a to pa 99;"
+                + "law taken=3 and left=60 or taken=7 and left=61;");
         Due.is("more", more.lie(0, 1, 0), 61);
         Due.is("more", more.lie(0, 1, 2), 7);
     }
@@ -294,16 +319,19 @@ public final class EdgeRoundTest {
     private static void lieTrueWorths() {
         Due.by("what by ROUNDS it has then, by its true WORTHS, is most;");
         // told 20 it seems much, but is 5 in truth
-        BetterThieves x = Due.city(Texts.worths(10, 5) + "house ha lock 0 has a;thief pa sack 9 skill 0 has b;dear a to pa 99;");
+        BetterThieves x = Due.city(Texts.worths(10, 5) + "house ha lock 0 has a;thief pa sack 9 skill 0 has b;"
+                + "dear a to pa 99;");
         Due.is("a stays", x.lie(0, 1, 0), 10);
         Due.is("none", x.lie(0, 1, 1), -1);
         // dear to it: by that, not by its worth
-        BetterThieves dear = Due.city(Texts.worths(10, 5) + "house ha lock 0 has a;thief pa sack 9 skill 0 has b;dear a to pa 99;"
+        BetterThieves dear = Due.city(Texts.worths(10, 5) + "house ha lock 0 has a;thief pa sack 9 skill 0 has b;"
+                + "dear a to pa 99;"
                 + "dear a to ha 3;dear b to ha 4;law taken=20;");
         Due.is("what it has", dear.lie(0, 1, 0), 4);
         Due.is("the WORTH", dear.lie(0, 1, 2), 20);
         // to lie so that nothing is taken
-        BetterThieves keep = Due.city(Texts.worths(10, 5) + "house ha lock 0 has a;thief pa sack 9 skill 0 has b;dear a to pa 99;law taken=10;");
+        BetterThieves keep = Due.city(Texts.worths(10, 5) + "house ha lock 0 has a;thief pa sack 9 skill 0 has b;"
+                + "dear a to pa 99;law taken=10;");
         Due.is("it is kept", keep.lie(0, 1, 0), 10);
         Due.is("the THING", keep.lie(0, 1, 1), 0);
         Due.is("the WORTH", keep.lie(0, 1, 2), 0);

@@ -13,6 +13,7 @@ public final class EdgeSwapTest {
         order();
         ties();
         best();
+        laterThief();
         tourHours();
         tourWaits();
         tourInJail();
@@ -43,7 +44,8 @@ public final class EdgeSwapTest {
         for (int things = 0; things <= 10; things++) {
             for (int m = 0; m <= things; m++) {
                 int s = things - m;
-                Due.is(m + " there, " + s + " in STOCK", Due.city(parted(m, things) + "law 1;").swaps(0), m * (s + s * (s - 1) / 2));
+                Due.is(m + " there, " + s + " in STOCK", Due.city(parted(m, things) + "law 1;").swaps(0), m * (s
+                        + s * (s - 1) / 2));
             }
         }
         // none, three, and two at once are none
@@ -55,7 +57,8 @@ public final class EdgeSwapTest {
         Due.is("best of none", Due.city(parted(3, 7) + "law gave=3 or took=2;").best(0), GAP);
         // in several HOUSES: 1 + 1 + 1 + 1 + 0 there, 6 in STOCK
         Due.is("84", Due.city(Texts.things(10) + "house ha lock 0 has a;house hb lock 0 has b;house hc lock 0;"
-                + "house hd lock 0 has c;house he lock 0 has d;thief pa sack 999 skill 0" + Texts.has(4, 9) + ";law 1;").swaps(0), 84);
+                + "house hd lock 0 has c;house he lock 0 has d;thief pa sack 999 skill 0" + Texts.has(4, 9) + ";"
+                + "law 1;").swaps(0), 84);
         // of each THIEF for himself
         BetterThieves two = Due.city(Texts.things(4) + "house ha lock 0 has a;thief pa sack 9 skill 0 has b;"
                 + "thief pb sack 9 skill 0 has c has d;law 1;");
@@ -66,7 +69,8 @@ public final class EdgeSwapTest {
     private static void canLawfulNotSeen() {
         Due.by("is LAWFUL, and not SEEN, at an HOUR.");
         for (int n = 1; n <= 9; n++) {
-            BetterThieves x = Due.city("night " + n + ";" + Texts.worths(5, 6, 4) + "house ha lock 0 watch 0 has a;house hb lock 0 watch "
+            BetterThieves x = Due.city("night " + n + ";" + Texts.worths(5, 6, 4) + "house ha lock 0 watch 0 has a;"
+                    + "house hb lock 0 watch "
                     + (n - 1) + " has c;thief pa sack 9 skill 0 has b;");
             for (int hour = 0; hour <= n; hour++) {
                 int open = (hour % n == 0 ? 0 : 1) + (hour % n == n - 1 ? 0 : 1);
@@ -74,30 +78,34 @@ public final class EdgeSwapTest {
                 x.waits();
             }
         }
-        Due.is("as much is not LAWFUL", Due.city(Texts.worths(5, 5) + "house ha lock 0 has a;thief pa sack 9 skill 0 has b;")
+        Due.is("as much is not LAWFUL", Due.city(Texts.worths(5, 5) + "house ha lock 0 has a;"
+                + "thief pa sack 9 skill 0 has b;")
                 .swaps(0), 0);
     }
 
     private static void minutesOfASwap() {
         // one for two takes 15 MINUTES at the most
-        BetterThieves x = Due.city(Texts.worths(5, 6, 7) + "house ha lock 9 has a;thief pa sack 9 skill 0 has b has c;");
+        BetterThieves x = Due.city(Texts.worths(5, 6, 7) + "house ha lock 9 has a;"
+                + "thief pa sack 9 skill 0 has b has c;");
         Due.is("MINUTES", x.minutes(0, 0, 3), 15);
         Due.is("SWAPS", x.swaps(0), 3);
     }
 
     private static void gains() {
         Due.by("Its GAIN: what the THIEF's is WORTH to him then, less what it was.");
-        String[] parts = {"dear a to pa 99;dear b to pa 0;", "dear a to pa 0;dear b to pa 99;", "dear a to pa 7;dear b to pa 7;",
+        String[] parts = {"dear a to pa 99;dear b to pa 0;", "dear a to pa 0;dear b to pa 99;", "dear a to pa 7;"
+                + "dear b to pa 7;",
             "dear a to pa 8;dear b to pa 7;", "dear a to pa 6;dear b to pa 7;", "dear a to ha 0;dear b to ha 99;"};
         int[] gains = {99, -99, 0, 1, -1, -1};
         for (int i = 0; i < parts.length; i++) {
-            BetterThieves x = Due.city(Texts.worths(5, 6) + "house ha lock 0 has a;thief pa sack 9 skill 0 has b;" + parts[i]
+            BetterThieves x = Due.city(Texts.worths(5, 6) + "house ha lock 0 has a;thief pa sack 9 skill 0 has b;"
+                    + parts[i]
                     + "law 1;");
             Due.is(parts[i], x.best(0), gains[i]);
             Due.lies(parts[i], x, 0, 0, 2);
         }
-        BetterThieves two = Due.city(Texts.worths(0, 99, 99) + "house ha lock 0 has a;thief pa sack 9 skill 0 has b has c;"
-                + "law gave=2;");
+        BetterThieves two = Due.city(Texts.worths(0, 99, 99) + "house ha lock 0 has a;"
+                + "thief pa sack 9 skill 0 has b has c;law gave=2;");
         Due.is("for two", two.best(0), -198);
         Due.lies("for two", two, 0, 0, 6);
     }
@@ -105,10 +113,10 @@ public final class EdgeSwapTest {
     private static void order() {
         Due.by("SWAPS are ordered by HOUSE, THING TAKEN, set LEFT (as bits, the least first).");
         // all GAINS are 0: the first one LAWFUL is BEST
-        String city = Texts.things(7).replace("worth 1", "worth 0") + "house ha lock 0 has f;house hb lock 0 has b has e;"
-                + "thief pa sack 9 skill 0 has a has c has d has g;dear f to ha 1;dear b to hb 2;dear e to hb 3;"
-                + "dear a to ha 10;dear c to ha 20;dear d to ha 40;dear g to ha 80;"
-                + "dear a to hb 10;dear c to hb 20;dear d to hb 40;dear g to hb 80;law ";
+        String city = Texts.things(7).replace("worth 1", "worth 0") + "house ha lock 0 has f;"
+                + "house hb lock 0 has b has e;thief pa sack 9 skill 0 has a has c has d has g;dear f to ha 1;"
+                + "dear b to hb 2;dear e to hb 3;dear a to ha 10;dear c to ha 20;dear d to ha 40;"
+                + "dear g to ha 80;dear a to hb 10;dear c to hb 20;dear d to hb 40;dear g to hb 80;law ";
         int[][] order = new int[30][];
         int n = 0;
         int[][] taken = {{0, 5, 1}, {1, 1, 2}, {1, 4, 3}};
@@ -135,7 +143,8 @@ public final class EdgeSwapTest {
     }
 
     private static int worthOf(int left) {
-        return ((left & 1) != 0 ? 10 : 0) + ((left & 4) != 0 ? 20 : 0) + ((left & 8) != 0 ? 40 : 0) + ((left & 64) != 0 ? 80 : 0);
+        return ((left & 1) != 0 ? 10 : 0) + ((left & 4) != 0 ? 20 : 0) + ((left & 8) != 0 ? 40 : 0)
+                + ((left & 64) != 0 ? 80 : 0);
     }
 
     private static void ties() {
@@ -155,10 +164,12 @@ public final class EdgeSwapTest {
 
     private static void best() {
         Due.by("The HOUSE, the THING TAKEN, the set LEFT lie there then (behind GAP: nothing).");
-        BetterThieves x = Due.city(Texts.worths(5, 6, 7) + "house ha lock 0;house hb lock 0;house hc lock 0;house hd lock 0;"
+        BetterThieves x = Due.city(Texts.worths(5, 6, 7) + "house ha lock 0;house hb lock 0;house hc lock 0;"
+                + "house hd lock 0;"
                 + "house he lock 0 has b;" + Texts.thieves(3) + "thief pd sack 9 skill 0 has c has a;dear b to pd 90;");
         Due.is("the last of each", x.best(3), 83);
         Due.lies("the last of each", x, 4, 1, 4);
+        Due.by("BEST: its GAIN; GAP if there is no SWAP, or no such THIEF.");
         Due.is("no SWAP", x.best(0), GAP);
         Due.lies("no SWAP", x);
         Due.is("the last of each", x.best(3), 83);
@@ -167,6 +178,35 @@ public final class EdgeSwapTest {
         Due.is("the last of each", x.best(3), 83);
         x.gift(1, 3, true);
         Due.lies("what lies there stays there", x, 4, 1, 4);
+    }
+
+    /** The last of four THIEVES: by his own STOCK, sack and WORTHS, not by those of another. */
+    private static void laterThief() {
+        String city = Texts.weights(4, 1, 2, 3, 1, 1).replace("worth 1", "worth 5") + Texts.houses(1)
+                + "house hb lock 0 has a;thief pa sack 0 skill 0 has e;thief pb sack 99 skill 0 has f;"
+                + "thief pc sack 0 skill 0;thief pd sack ";
+        String behind = " skill 0 has b has c has d;dear b to pd 10;dear c to pd 20;dear d to pd 40;dear a to pd 99;"
+                + "dear b to pb 77;law gave=2;";
+        // a for b and c, b and d, c and d: his STOCK weighs 7, 6 and 5 then
+        for (int sack = 4; sack <= 8; sack++) {
+            BetterThieves x = Due.city(city + sack + behind);
+            Due.is("a sack of " + sack, x.swaps(3), Math.max(0, Math.min(3, sack - 4)));
+            int[] gains = {GAP, 39, 49, 69, 69};
+            Due.is("a sack of " + sack, x.best(3), gains[sack - 4]);
+        }
+        BetterThieves tour = Due.city(Texts.worths(1, 2, 3, 4, 9) + Texts.houses(4)
+                + "house he lock 0 has b has c has d;thief pa sack 9 skill 0 has e;"
+                + Texts.thieves(3).substring(Texts.thieves(1).length()) + "thief pd sack 9 skill 0 has a;"
+                + "law taken=left+1;");
+        Due.is("three HOURS", tour.tour(3, 3), 3);
+        Due.lies("three HOURS", tour, 4, 1, 1, 4, 2, 2, 4, 3, 4);
+        Due.is("not the first", tour.tour(0, 3), -1);
+        Due.is("he has none", tour.tour(1, 3), -1);
+        tour.image(2);
+        tour.theft(3, 4, 2, 1);
+        Due.is("who", tour.who(2), 6);
+        Due.lies("who", tour, 3, 0, 4, 1, 1);
+        Due.is("in ROUNDS", tour.drift(3, 2), 13);
     }
 
     /** Each THING can be had for the one ahead of it: n HOURS for THING n. */
@@ -209,7 +249,8 @@ public final class EdgeSwapTest {
         Due.by("in each HOUR from now on he does a SWAP, or waits, and nobody else does anything:");
         String begin = "night 9;" + Texts.worths(5, 6) + "house ha lock 0";
         for (int n = 0; n <= 9; n++) {
-            BetterThieves x = Due.city(begin + Texts.watches(n) + " has a;thief pa sack 9 skill 0 has b;thief pb sack 9 skill 0;");
+            BetterThieves x = Due.city(begin + Texts.watches(n) + " has a;thief pa sack 9 skill 0 has b;"
+                    + "thief pb sack 9 skill 0;");
             Due.is(n + " HOURS of watch", x.tour(0, 0), n < 9 ? n + 1 : -1);
             Due.is("numbers", x.about(15), n < 9 ? 3 * n + 3 : 0);
             for (int i = 0; i < n && n < 9; i++) {
@@ -222,7 +263,8 @@ public final class EdgeSwapTest {
             Due.is("he has it", x.tour(0, 1), 0);
         }
         // past the end of the NIGHT
-        BetterThieves x = Due.city("night 3;" + Texts.worths(5, 6) + "house ha lock 0 watch 1 watch 2 has a;thief pa sack 9 skill 0 has b;");
+        BetterThieves x = Due.city("night 3;" + Texts.worths(5, 6) + "house ha lock 0 watch 1 watch 2 has a;"
+                + "thief pa sack 9 skill 0 has b;");
         Due.is("now", x.tour(0, 0), 1);
         x.waits();
         Due.is("in the next NIGHT", x.tour(0, 0), 3);
@@ -234,7 +276,8 @@ public final class EdgeSwapTest {
     private static void tourInJail() {
         Due.by("(Who is in JAIL waits for the next NIGHT.)");
         for (int n = 2; n <= 9; n++) {
-            BetterThieves x = Due.city("night " + n + ";" + Texts.worths(5, 6, 4) + "house ha lock 0 watch 0 has a;house hb lock 0 has c;"
+            BetterThieves x = Due.city("night " + n + ";" + Texts.worths(5, 6, 4) + "house ha lock 0 watch 0 has a;"
+                    + "house hb lock 0 has c;"
                     + "thief pa sack 9 skill 0 has b;");
             Due.is("CAUGHT", x.theft(0, 0, 1, 2), 2);
             Due.is("what has no watch", x.tour(0, 2), n);
@@ -249,17 +292,20 @@ public final class EdgeSwapTest {
     private static void tourFirst() {
         Due.by("of like ones the first (HOUR by HOUR; to wait comes last).");
         // b for a now, or in the next HOUR, is had behind two HOURS by c: he does it now
-        BetterThieves x = Due.city("night 9;" + Texts.worths(1, 2, 3, 9) + "house ha lock 0 watch 0 has c;house hb lock 0 has b;"
+        BetterThieves x = Due.city("night 9;" + Texts.worths(1, 2, 3, 9) + "house ha lock 0 watch 0 has c;"
+                + "house hb lock 0 has b;"
                 + "thief pa sack 9 skill 0 has a;law taken=left+1;");
         Due.is("two", x.tour(0, 2), 2);
         Due.lies("two", x, 1, 1, 1, 0, 2, 2);
         // nothing is to be done in the second HOUR but what is of no use: a SWAP comes ahead of waiting
-        BetterThieves y = Due.city("night 9;" + Texts.worths(1, 1, 9, 9) + "house ha lock 0 watch 0 watch 1 has c;house hb lock 0 has b;"
+        BetterThieves y = Due.city("night 9;" + Texts.worths(1, 1, 9, 9) + "house ha lock 0 watch 0 watch 1 has c;"
+                + "house hb lock 0 has b;"
                 + "thief pa sack 9 skill 0 has a;law taken=left or taken=9;");
         Due.is("three", y.tour(0, 2), 3);
         Due.lies("three", y, 1, 1, 1, 1, 0, 2, 0, 2, 1);
         // of two THINGS that do, the one of the least set; of two HOUSES the first
-        BetterThieves z = Due.city(Texts.worths(5, 6, 7) + "house ha lock 0 has a;thief pa sack 9 skill 0 has b has c;");
+        BetterThieves z = Due.city(Texts.worths(5, 6, 7) + "house ha lock 0 has a;"
+                + "thief pa sack 9 skill 0 has b has c;");
         Due.is("one", z.tour(0, 0), 1);
         Due.lies("one", z, 0, 0, 2);
         BetterThieves w = Due.city(Texts.worths(1, 2, 2, 3) + "house ha lock 0 has b;house hb lock 0 has c has d;"
@@ -276,7 +322,8 @@ public final class EdgeSwapTest {
         Due.is("it is there", x.tour(0, 1), 1);
         Due.is("for the other, too", x.tour(1, 1), 1);
         Due.lies("for the other, too", x, 0, 1, 4);
-        Due.is("too heavy for ever", Due.city(Texts.weights(10, 1) + "house ha lock 0 has a;thief pa sack 9 skill 0 has b;law 1;")
+        Due.is("too heavy for ever", Due.city(Texts.weights(10, 1) + "house ha lock 0 has a;"
+                + "thief pa sack 9 skill 0 has b;law 1;")
                 .tour(0, 0), -1);
     }
 
@@ -284,13 +331,13 @@ public final class EdgeSwapTest {
     private static void spent() {
         Due.by("SPENT, if more than 2,000 states of THINGS are come to");
         String law = ";law left+1>taken and left<taken+2;";
-        BetterThieves most = Due.city("night 1;" + Texts.worths(5, 0, 1, 2, 0, 0, 2) + "thing z of ka weight 99 worth 1;"
-                + "house ha lock 0 has a has z;house hb lock 0 has b;house hc lock 0 has c;thief p sack 50 skill 0"
-                + Texts.has(3, 6) + law);
+        BetterThieves most = Due.city("night 1;" + Texts.worths(5, 0, 1, 2, 0, 0, 2)
+                + "thing z of ka weight 99 worth 1;house ha lock 0 has a has z;house hb lock 0 has b;"
+                + "house hc lock 0 has c;thief p sack 50 skill 0" + Texts.has(3, 6) + law);
         Due.is("2,000 states", most.tour(0, 7), -1);
-        BetterThieves more = Due.city("night 1;" + Texts.worths(2, 3, 4, 4, 5, 3, 2) + "thing z of ka weight 99 worth 1;"
-                + "house ha lock 0 has a has b has z;house hb lock 0 has c has d;thief p sack 50 skill 0"
-                + Texts.has(4, 6) + law);
+        BetterThieves more = Due.city("night 1;" + Texts.worths(2, 3, 4, 4, 5, 3, 2)
+                + "thing z of ka weight 99 worth 1;house ha lock 0 has a has b has z;house hb lock 0 has c has d;"
+                + "thief p sack 50 skill 0" + Texts.has(4, 6) + law);
         Due.is("2,001 states", more.tour(0, 7), -2);
         Due.lies("2,001 states", more);
         Due.by("(each once behind each HOUR,");
@@ -299,7 +346,8 @@ public final class EdgeSwapTest {
                 + " has j;thief pa sack 99 skill 0" + Texts.has(5, 8) + ";law gave=1 and taken<9;";
         Due.is("980 states", Due.city(parted).tour(0, 9), -1);
         // one for two as well: more each HOUR
-        Due.is("more", Due.city(parted.replace("gave=1 and ", "").replace("house ha", "house hb lock 0;house ha")).tour(0, 9), -2);
+        Due.is("more", Due.city(parted.replace("gave=1 and ", "").replace("house ha", "house hb lock 0;"
+                + "house ha")).tour(0, 9), -2);
     }
 
     private static void aheadOfAsking() {
@@ -311,7 +359,8 @@ public final class EdgeSwapTest {
         Due.is("2,000 states", x.tour(0, 7), 5);
         Due.lies("2,000 states", x, 0, 2, 16, 0, 4, 4, 0, 2, 16, 0, 4, 4, 1, 7, 2);
         // 576 behind 4 HOURS, 2,001 behind 5, in some of which he has z
-        BetterThieves y = Due.city("night 9;" + Texts.worths(3, 1, 1, 2, 2, 1, 2, 50) + "house ha lock 0;house hb lock 0 has b has c;"
+        BetterThieves y = Due.city("night 9;" + Texts.worths(3, 1, 1, 2, 2, 1, 2, 50) + "house ha lock 0;"
+                + "house hb lock 0 has b has c;"
                 + "house hc lock 0 has f has h;thief p sack 99 skill 0 has a has d has e has g;"
                 + "law left+1>taken and left<taken+2 or taken=50 and hour=4;");
         Due.is("2,001 states", y.tour(0, 7), -2);
@@ -322,7 +371,8 @@ public final class EdgeSwapTest {
     }
 
     private static void tourLies() {
-        Due.by("For each HOUR its HOUSE (NONE: he waits), THING, set LEFT (NONE, 0) lie there then (behind NONE, -2: nothing).");
+        Due.by("For each HOUR its HOUSE (NONE: he waits), THING, set LEFT (NONE, 0) lie there then (behind NONE, -2: "
+                + "nothing).");
         BetterThieves x = Due.city("night 9;" + chain(""));
         x.tour(0, 9);
         Due.is("27", x.about(15), 27);
@@ -339,8 +389,8 @@ public final class EdgeSwapTest {
     }
 
     private static void unbettered() {
-        Due.by("UNBETTERED: THINGS of a HOUSE for which no THIEF has one or two THINGS in STOCK "
-                + "by which a THEFT of that one alone would be LAWFUL");
+        Due.by("UNBETTERED: THINGS of a HOUSE for which no THIEF has one or two THINGS in STOCK by which a THEFT of "
+                + "that one alone would be LAWFUL");
         String begin = Texts.worths(5, 10, 11, 16, 20, 6, 5, 5);
         String all = "house ha lock 0 has a has b has c has d has e;house hb lock 0;";
         // 6, and 5 + 5 for the other
@@ -359,10 +409,17 @@ public final class EdgeSwapTest {
         Due.is("no THIEF", nobody.unbettered(0), 31);
         Due.is("no HOUSE", nobody.unbettered(2), -1);
         Due.is("HOUSE -1", nobody.unbettered(-1), -1);
-        BetterThieves full = Due.city(Texts.things(10) + "house ha lock 0" + Texts.has(0, 9) + ";thief pa sack 9 skill 0;law 1;");
+        BetterThieves full = Due.city(Texts.things(10) + "house ha lock 0" + Texts.has(0, 9) + ";"
+                + "thief pa sack 9 skill 0;law 1;");
         Due.is("all ten", full.unbettered(0), 1023);
         full.gift(9, 0, true);
         Due.is("none of nine", full.unbettered(0), 0);
+        BetterThieves four = Due.city(begin + Texts.houses(4) + "house he lock 0 has a has b;" + Texts.thieves(3)
+                + "thief pd sack 9 skill 0 has f;");
+        Due.is("the last HOUSE, by the last THIEF", four.unbettered(4), 2);
+        Due.is("no sixth HOUSE", four.unbettered(5), -1);
+        four.gift(5, 4, false);
+        Due.is("by none of four", four.unbettered(4), 35);
         // alone: two at once, three LEFT or none LEFT don't count
         for (String law : new String[] {"took=2", "gave=3", "gave=0"}) {
             BetterThieves y = Due.city(begin + all + "thief pa sack 9 skill 0 has f has g has h;law " + law + ";");
@@ -372,7 +429,8 @@ public final class EdgeSwapTest {
 
     private static void unbetteredNoMatter() {
         Due.by("(in the HOUR as it is; sacks, MINUTES, JAIL, watch are no matter).");
-        String begin = "night 2;" + Texts.weights(99, 1, 1, 1).replace("worth 1", "worth 5") + "house ha lock 9 watch 0 has a;house hb lock 0 has d;";
+        String begin = "night 2;" + Texts.weights(99, 1, 1, 1).replace("worth 1", "worth 5")
+                + "house ha lock 9 watch 0 has a;house hb lock 0 has d;";
         BetterThieves x = Due.city(begin + "thief pa sack 0 skill 0 has b has c;dear b to ha 6;");
         Due.is("sack, watch", x.unbettered(0), 0);
         Due.is("but no SWAP", x.swaps(0), 0);
@@ -386,7 +444,8 @@ public final class EdgeSwapTest {
         Due.is("HOUR 1", z.unbettered(0), 0);
         z.waits();
         Due.is("HOUR 0 again", z.unbettered(0), 1);
-        BetterThieves skill = Due.city(begin + "thief pa sack 0 skill 8 has b;thief pb sack 0 skill 9 has c;law skill=9 and left;");
+        BetterThieves skill = Due.city(begin + "thief pa sack 0 skill 8 has b;thief pb sack 0 skill 9 has c;"
+                + "law skill=9 and left;");
         Due.is("skill of each", skill.unbettered(0), 0);
         skill.gift(2, 0, true);
         Due.is("skill of each", skill.unbettered(0), 1);
@@ -406,8 +465,10 @@ public final class EdgeSwapTest {
         }
         Due.is("without law there is none", Due.city(parted(5, 10)).loopholes(), 0);
         Due.is("for two it is none", Due.city(parted(5, 10) + "law gave=2;").loopholes(), 0);
-        Due.by("The first (by THIEF, HOUSE, THING there, THING in STOCK) lies there then, these four (behind 0: nothing).");
-        BetterThieves y = Due.city(Texts.things(10) + Texts.houses(2) + "house hc lock 0 has c has j;house hd lock 0 has b;house he lock 0 has a;"
+        Due.by("The first (by THIEF, HOUSE, THING there, THING in STOCK) lies there then, these four (behind 0: "
+                + "nothing).");
+        BetterThieves y = Due.city(Texts.things(10) + Texts.houses(2) + "house hc lock 0 has c has j;"
+                + "house hd lock 0 has b;house he lock 0 has a;"
                 + Texts.thieves(2) + "thief pc sack 9 skill 0 has i has f;thief pd sack 9 skill 0 has e has d;law 1;");
         Due.is("4 there, 4 in STOCK", y.loopholes(), 16);
         Due.lies("the first", y, 2, 2, 2, 5);
@@ -422,7 +483,8 @@ public final class EdgeSwapTest {
     }
 
     private static void loopholeEdges() {
-        Due.by("to take the one for the other is a SWAP now, and, that done, to take it back for the other one, in the same HOUR, too.");
+        Due.by("to take the one for the other is a SWAP now, and, that done, to take it back for the other one, in "
+                + "the same HOUR, too.");
         String begin = "night 2;" + Texts.weights(3, 5).replace("worth 1", "worth 5") + "house ha lock 0";
         // his STOCK weighs 5 as it is, and 3 with the other
         for (int sack = 2; sack <= 6; sack++) {
@@ -447,8 +509,16 @@ public final class EdgeSwapTest {
         BetterThieves back = Due.city(begin + " has a;thief pa sack 9 skill 0 has b;dear a to ha 6;");
         Due.is("not there", back.swaps(0), 0);
         Due.is("not there", back.loopholes(), 0);
+        // both ways by what each is worth there: there it is 6 + 2 for 5, back 5 + 2 for 6
+        for (int worth = 3; worth <= 9; worth++) {
+            BetterThieves x = Due.city(begin + " has a;thief pa sack 9 skill 0 has b;dear a to ha " + worth
+                    + ";dear b to ha 6;law left+2>taken;");
+            Due.is("there from " + worth, x.swaps(0), worth < 8 ? 1 : 0);
+            Due.is("and back from " + worth, x.loopholes(), worth > 4 && worth < 8 ? 1 : 0);
+        }
         // in JAIL there is none
-        BetterThieves jail = Due.city("night 3;" + Texts.things(3) + "house ha lock 0 watch 0 has a;thief pa sack 9 skill 0 has b;"
+        BetterThieves jail = Due.city("night 3;" + Texts.things(3) + "house ha lock 0 watch 0 has a;"
+                + "thief pa sack 9 skill 0 has b;"
                 + "thief pb sack 9 skill 0 has c;law 1;");
         Due.is("CAUGHT", jail.theft(0, 0, 1, 0), 2);
         Due.is("of the other", jail.loopholes(), 1);
@@ -456,10 +526,13 @@ public final class EdgeSwapTest {
     }
 
     private static void who() {
-        Due.by("of what was kept in a BOX, one SWAP (at an HOUR 0 .. of a NIGHT; nobody in JAIL) by which THINGS are as they are now.");
-        String city = "night 1;" + Texts.things(6) + "house ha lock 0 has a;house hb lock 0 has b;thief pa sack 9 skill 0 has c has d;"
+        Due.by("of what was kept in a BOX, one SWAP (at an HOUR 0 .. of a NIGHT;"
+                + " nobody in JAIL) by which THINGS are as they are now.");
+        String city = "night 1;" + Texts.things(6) + "house ha lock 0 has a;house hb lock 0 has b;"
+                + "thief pa sack 9 skill 0 has c has d;"
                 + "thief pb sack 9 skill 0 has e has f;law 1;";
-        int[][] swaps = {{0, 0, 0, 4}, {0, 0, 0, 8}, {0, 0, 0, 12}, {0, 1, 1, 4}, {1, 0, 0, 16}, {1, 1, 1, 48}, {1, 1, 1, 32}};
+        int[][] swaps = {{0, 0, 0, 4}, {0, 0, 0, 8}, {0, 0, 0, 12}, {0, 1, 1, 4}, {1, 0, 0, 16}, {1, 1, 1, 48}, {1, 1,
+                1, 32}};
         for (int[] s : swaps) {
             BetterThieves x = Due.city(city);
             x.image(2);
@@ -471,7 +544,8 @@ public final class EdgeSwapTest {
         int[][] thefts = {{0, 0, 1, 0}, {0, 0, 1, 28}, {0, 0, 33, 4}};
         for (int[] t : thefts) {
             BetterThieves x = Due.city(city.replace("has e has f", "has f").replace("has c has d", "has c has d has e")
-                    .replace("house ha lock 0 has a;", "house ha lock 0 has a has f;").replace("skill 0 has f;", "skill 0;"));
+                    .replace("house ha lock 0 has a;", "house ha lock 0 has a has f;").replace("skill 0 has f;",
+                            "skill 0;"));
             x.image(0);
             Due.is("theft", x.theft(t[0], t[1], t[2], t[3]), 1);
             Due.is("no SWAP", x.who(0), 0);
@@ -498,7 +572,8 @@ public final class EdgeSwapTest {
         Due.by("how many SWAPS (each HOUR counts);");
         for (int n = 1; n <= 9; n++) {
             for (int watched = 0; watched <= n; watched++) {
-                BetterThieves x = Due.city("night " + n + ";" + Texts.worths(5, 6) + "house ha lock 0" + Texts.watches(watched)
+                BetterThieves x = Due.city("night " + n + ";" + Texts.worths(5, 6) + "house ha lock 0"
+                        + Texts.watches(watched)
                         + " has a;thief pa sack 9 skill 0 has b;");
                 x.image(0);
                 x.gift(0, 0, true);
@@ -511,8 +586,10 @@ public final class EdgeSwapTest {
                 }
             }
         }
-        Due.by("The first (by THIEF, HOUR, then as SWAPS) lies there then, as THIEF, HOUR, HOUSE, THING, set LEFT (behind 0, NONE: nothing).");
-        BetterThieves last = Due.city("night 9;" + Texts.worths(5, 6) + "house ha lock 0 has a;thief pa sack 9 skill 0 has b;law hour=8;");
+        Due.by("The first (by THIEF, HOUR, then as SWAPS) lies there then, as THIEF, HOUR, HOUSE, THING, set LEFT "
+                + "(behind 0, NONE: nothing).");
+        BetterThieves last = Due.city("night 9;" + Texts.worths(5, 6) + "house ha lock 0 has a;"
+                + "thief pa sack 9 skill 0 has b;law hour=8;");
         last.image(1);
         last.gift(0, 0, true);
         last.gift(1, 0, false);
@@ -522,7 +599,8 @@ public final class EdgeSwapTest {
 
     private static void whoNoMatter() {
         // who was in JAIL when it was kept, and who is now; the HOUR kept, and the HOUR now
-        BetterThieves x = Due.city("night 3;" + Texts.worths(5, 6) + "house ha lock 0 watch 1 has a;thief pa sack 9 skill 0 has b;");
+        BetterThieves x = Due.city("night 3;" + Texts.worths(5, 6) + "house ha lock 0 watch 1 has a;"
+                + "thief pa sack 9 skill 0 has b;");
         x.waits();
         Due.is("CAUGHT", x.theft(0, 0, 1, 2), 2);
         x.image(0);
@@ -533,14 +611,16 @@ public final class EdgeSwapTest {
         Due.is("in JAIL still", x.about(7), 1);
         // the sack is a matter: by what he had then
         for (int sack = 2; sack <= 4; sack++) {
-            BetterThieves y = Due.city("night 1;" + Texts.weights(3, 1) + "house ha lock 0 has a;thief pa sack " + sack + " skill 0 has b;law 1;");
+            BetterThieves y = Due.city("night 1;" + Texts.weights(3, 1) + "house ha lock 0 has a;thief pa sack "
+                    + sack + " skill 0 has b;law 1;");
             y.image(0);
             y.gift(0, 0, true);
             y.gift(1, 0, false);
             Due.is("a sack of " + sack, y.who(0), sack >= 3 ? 1 : 0);
         }
         // what is nowhere, then or now, is no SWAP
-        BetterThieves z = Due.city("night 1;" + Texts.things(3) + "house ha lock 0 has a;thief pa sack 9 skill 0 has b;law 1;");
+        BetterThieves z = Due.city("night 1;" + Texts.things(3) + "house ha lock 0 has a;"
+                + "thief pa sack 9 skill 0 has b;law 1;");
         z.image(0);
         z.gift(0, 0, true);
         z.gift(1, 0, false);

@@ -59,12 +59,12 @@ public final class EdgeTokensTest {
         Due.faulty("law" + " not".repeat(424), 2, 32);
         Due.faulty("law 1" + "+1".repeat(847), 2, 64);
         // as many TOKENS as there can be: the last one is the first FAULT
-        Due.faulty("law 1" + " and 1".repeat(29) + ";" + ";".repeat(1700 - 180), 2, 180);
+        Due.faulty("law 1" + " and 1".repeat(29) + ";;".repeat(1700 - 180), 2, 180);
     }
 
     private static void everyByteAlone() {
-        Due.by("TOKENS: words (a .. z, 8 at most), N (1 to 4 digits), signs ; ( ) < > = + - * / %; "
-                + "blanks (32, 10) part them or not");
+        Due.by("TOKENS: words (a .. z, 8 at most), N (1 to 4 digits), signs ; ( ) < > = + - * / %;"
+                + " blanks (32, 10) part them or not");
         for (char c = 0; c < 256; c++) {
             if (isBlank(c)) {
                 Due.sound(String.valueOf(c), 0);
@@ -143,7 +143,8 @@ public final class EdgeTokensTest {
 
     private static void blanks() {
         Due.by("blanks (32, 10) part them or not");
-        String[] tokens = {"night", "3", ";", "kind", "a", ";", "thing", "x", "of", "a", "weight", "1", "worth", "2", ";",
+        String[] tokens = {"night", "3", ";", "kind", "a", ";", "thing", "x", "of", "a", "weight", "1", "worth", "2",
+                ";",
             "house", "h", "lock", "1", "watch", "0", "has", "x", ";", "thief", "p", "sack", "9", "skill", "1", ";",
             "dear", "x", "to", "p", "3", ";", "law", "not", "(", "left", "+", "1", ")", "*", "2", "-", "taken", "/",
             "took", "%", "gave", "<", "alike", "and", "hour", ">", "3", "or", "skill", "=", "4", ";"};
@@ -207,8 +208,10 @@ public final class EdgeTokensTest {
 
     /** What stands for a part of the text, not for itself. */
     private static void otherWords() {
-        for (String word : new String[] {"line", "city", "e", "both", "one", "sum", "term", "unit", "n", "name", "things",
-            "kin", "hous", "thie", "dea", "la", "nigh", "o", "weigh", "wort", "loc", "watc", "ha", "sac", "t", "an", "no",
+        for (String word : new String[] {"line", "city", "e", "both", "one", "sum", "term", "unit", "n", "name",
+                "things",
+            "kin", "hous", "thie", "dea", "la", "nigh", "o", "weigh", "wort", "loc", "watc", "ha", "sac", "t", "an",
+                    "no",
             "take", "lef", "too", "gav", "alik", "hou", "skil", "ind", "hing", "ouse", "hief", "jail", "stock"}) {
             Due.sound("kind " + word + ";", 0);
         }

@@ -43,8 +43,13 @@ final class Twins {
     private static void compare(String name, Supplier<BetterThieves> made, Call call, long want, boolean laid) {
         BetterThieves one = made.get();
         Due.is(name, call.on(one), want);
+        alike(name + " changes nothing", one, made.get(), laid);
+    }
+
+    /** Both are the same to the eye. */
+    static void alike(String name, BetterThieves one, BetterThieves other, boolean laid) {
         List<String> got = trace(one, laid);
-        List<String> due = trace(made.get(), laid);
+        List<String> due = trace(other, laid);
         int same = 0;
         while (same < due.size() && same < got.size() && due.get(same).equals(got.get(same))) {
             same++;
@@ -52,7 +57,7 @@ final class Twins {
         boolean alike = same == due.size() && same == got.size();
         String where = alike ? "" : ", but " + (same < got.size() ? got.get(same) : "an end") + " for "
                 + (same < due.size() ? due.get(same) : "an end");
-        Due.is(name + " changes nothing" + where, alike, true);
+        Due.is(name + where, alike, true);
     }
 
     private static List<String> trace(BetterThieves x, boolean laid) {
