@@ -288,6 +288,7 @@ public final class EdgeFormulaTest {
         comes("8/4*2=4", 1);
         comes("9%5*3=12", 1);
         comes("2*9%5=3", 1);
+        Due.by("e = both {or both}. both = one {and one}.");
         comes("1 or 1 and 0", 1);
         comes("0 and 1 or 1", 1);
         comes("(1 or 1) and 0", 0);
